@@ -66,6 +66,10 @@ public final class BestTest {
         x.set(2, 1, Check.bits(7, 9));
         CHECK.due("7: 1 .. 99 by 7 and 3", x.buy(0, 1, 0), 7);
         CHECK.due("by 7 alone", x.buy(0, 1, 1), 99 - 14);
+        x.set(2, 1, Check.bits(30));
+        x.set(2, 0, 0);
+        CHECK.due("30", x.buy(0, 1, 0), 30);
+        CHECK.due("by 30", x.buy(0, 1, 1), 96);
         // ADDING: what is bought makes more.
         NumbersInherited y = new NumbersInherited();
         Check.heir(y, 1, 0, 1);
@@ -106,7 +110,12 @@ public final class BestTest {
         x.force(1);
         CHECK.due("meant or not", x.pawn(0, 1, 1), 99);
         CHECK.due("nothing has changed", x.told(0, 2), Check.bits(20, 21, 30));
-        // TWIN can say 20 by MORE and by 24 as well, whatever it pawns: 12 is made by 24.
+        x.set(2, 0, Check.bits(2, 30));
+        x.set(2, 1, Check.bits(2, 30));
+        CHECK.due("30 can go", x.pawn(0, 1, 0), 30);
+        x.set(2, 0, Check.bits(1));
+        CHECK.due("1 alone", x.pawn(0, 1, 0), 1);
+        // A TWIN says 6 by MORE and by 12, and 12 by 24: 12 can go.
         NumbersInherited y = new NumbersInherited();
         Check.heir(y, 4, 6, 12, 24);
         Check.heir(y, 0, 0, 6, 12);

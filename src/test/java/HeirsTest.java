@@ -34,6 +34,8 @@ public final class HeirsTest {
         CHECK.due("DAY too great", x.set(0, 0, 100), -2);
         CHECK.due("DAY below 0", x.set(0, 0, -1), -2);
         CHECK.due("DAY stays", x.told(0, 0), 3);
+        CHECK.due("DAY 0", x.set(0, 0, 0), 3);
+        CHECK.due("DAY is 0", x.told(0, 0), 0);
         CHECK.due("MORE of none", x.set(1, 0, 0), -2);
         x.heir(0, 4);
         CHECK.due("MORE was", x.set(1, 0, 9), 4);

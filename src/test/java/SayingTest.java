@@ -27,6 +27,7 @@ public final class SayingTest {
     private static void sayable() {
         sayable(0, 9, new int[] {1, 30}, Check.bits(1, 30));
         sayable(1, 9, new int[] {1, 15, 16}, Check.bits(1, 2, 15, 16, 17, 30));
+        sayable(2, 9, new int[] {2}, Check.bits(1, 2));
         sayable(2, 9, new int[] {1, 7, 12, 30}, Check.bits(1, 6, 7, 12, 15, 30));
         sayable(3, 9, new int[] {1, 15, 16}, Check.bits(1, 2, 14, 15, 16, 17, 30));
         sayable(4, 9, new int[] {12, 24}, Check.bits(6, 9, 12, 24));
@@ -158,6 +159,7 @@ public final class SayingTest {
         CHECK.due("1 to 0 through 2", y.pays(1, 0, 36, 2), 54);
         CHECK.due("SUM 0", y.pays(0, 1, 0, 2), 0);
         CHECK.due("SUM 0 in one", y.pays(0, 1, 0, 3), 1);
+        CHECK.due("to 0 in two", y.pays(1, 0, 36, 3), 2);
         // Without a price on 9: 4 nines cost 8, and no way is less.
         y.force(0);
         CHECK.due("direct", y.pays(0, 1, 36, 2), 8);
@@ -220,6 +222,10 @@ public final class SayingTest {
         CHECK.due("none is meant by the other", x.barred(1, 0, 0), 0);
         CHECK.due("no first", x.barred(1, 0, 1), -1);
         CHECK.due("no worth", x.barred(1, 0, 2), 0);
+        x.force(0);
+        x.set(2, 0, Check.bits(30));
+        x.set(2, 1, Check.bits(30));
+        CHECK.due("30, 60, 90 are left", x.barred(0, 1, 0), 96);
         CHECK.due("one and the same", x.barred(0, 0, 0), -2);
         CHECK.due("no such", x.barred(0, 3, 0), -2);
         CHECK.due("no such", x.barred(-1, 0, 0), -2);
@@ -273,6 +279,19 @@ public final class SayingTest {
         CHECK.due("99", x.middle(99, 0), -1);
         CHECK.due("no such what", x.middle(12, 2), -2);
         CHECK.due("what below 0", x.middle(12, -1), -2);
+        // The first HEIR between all others; like ones: the first.
+        NumbersInherited z = new NumbersInherited();
+        Check.heir(z, 0, 0, 2, 3, 5);
+        Check.heir(z, 0, 0, 2);
+        Check.heir(z, 0, 0, 3);
+        Check.heir(z, 0, 0, 5);
+        CHECK.due("star", z.middle(30, 0), 0);
+        CHECK.due("star's pairs", z.middle(30, 1), 3);
+        Check.heir(z, 0, 0, 5, 7);
+        Check.heir(z, 0, 0, 7);
+        // On 35 0, 3 and 4 can each pay each other, and 4 can pay 5: without 4 go 0-5 and 3-5.
+        CHECK.due("35", z.middle(35, 0), 4);
+        CHECK.due("35's pairs", z.middle(35, 1), 2);
         // A ring has no middle.
         NumbersInherited y = new NumbersInherited();
         Check.heir(y, 0, 0, 1, 2);

@@ -54,6 +54,13 @@ public final class TextsTest {
         y.force(1);
         y.heir(0, 0);
         CHECK.due("its worth", y.says(0, 1, 3), 69);
+        // Long ones behind each other, FAULTS among them, keep none of their room from the next.
+        for (int i = 2; i < 5; i++) {
+            CHECK.due("spoiled at its end", Check.text(y, longest + "n"), -259);
+            CHECK.due("160 bytes again", Check.text(y, longest + ";"), i);
+            y.force(i);
+            CHECK.due("its worth", y.says(0, 2, 3), 70);
+        }
     }
 
     private static void fault(String text, int place) {
@@ -96,6 +103,10 @@ public final class TextsTest {
         stands("says 9999;meant 0001;worth 0;");
         fault("says x;", 5);
         fault("says nn;", 5);
+        fault("says nz;", 5);
+        fault("says an;", 5);
+        fault("says says;", 5);
+        fault("says not;", 8);
         fault("says or;", 5);
         fault("says 1 or;", 9);
         fault("says 1 and;", 10);

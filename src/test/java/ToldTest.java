@@ -60,6 +60,17 @@ public final class ToldTest {
         CHECK.due("MANY", z.rows(0, 0, 1, 0), -1);
         CHECK.due("MORES of MANY", z.rows(0, 0, 1, 2), 63);
         CHECK.due("KINDS", z.rows(0, 0, 1, 1), 32);
+        // 30 and 1 are OWN as others are.
+        NumbersInherited w = new NumbersInherited();
+        Check.heir(w, 0, 0, 1, 30);
+        Check.heir(w, 0, 0, 1, 30);
+        Check.sheet(w, 0, 2, 30, 2, 31, 4);
+        CHECK.due("MUST have 1 and 30", w.rows(0, 0, 1, 4), Check.bits(1, 30));
+        w.set(2, 0, 0);
+        Check.sheet(w, 0, 2, 30, 2, 60, 4, 1, -1);
+        CHECK.due("MAY have 30", w.rows(0, 0, 1, 5), Check.bits(30));
+        Check.sheet(w, 0, 2, 5, 10);
+        CHECK.due("MAY have 1", w.rows(0, 0, 1, 5), Check.bits(1));
         // No rows: all are so.
         z.sheet(1, 0, 0);
         CHECK.due("no rows", z.rows(1, 0, 1, 0), -1);
@@ -196,6 +207,15 @@ public final class ToldTest {
             CHECK.due("drawn " + seed, x.drawn(seed * 77777777), 99 - y.barred(0, 1, 0));
         }
         CHECK.due("nothing has changed", x.count(4), 0);
+        // Each as it is: a CLERK pays one of MANY, whose MORE lets him say more.
+        NumbersInherited w = new NumbersInherited();
+        w.heir(3, 0);
+        w.heir(5, 0);
+        for (int seed = 0; seed < 20; seed++) {
+            int next = setDrawn(w, 0, seed);
+            setDrawn(w, 1, next);
+            CHECK.due("drawn by a CLERK, MANY " + seed, w.drawn(seed), 99 - w.barred(0, 1, 0));
+        }
         Check.text(x, "says 1;meant 0;worth 0;");
         int before = x.drawn(3);
         x.force(1);
@@ -234,6 +254,8 @@ public final class ToldTest {
         CHECK.isSo("some were not in lowest terms", shortened);
         x.set(2, 0, 1);
         x.set(2, 1, 1);
+        CHECK.due("never, in one", x.chance(5, 1, 0), 0);
+        CHECK.due("never, in one", x.chance(5, 1, 1), 1);
         CHECK.due("never: above", x.chance(5, 12, 0), 0);
         CHECK.due("never: below", x.chance(5, 12, 1), 1);
         CHECK.due("n 0", x.chance(0, 0, 0), NumbersInherited.NO);
