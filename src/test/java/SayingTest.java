@@ -9,6 +9,7 @@ public final class SayingTest {
         common();
         pays();
         through();
+        steps();
         barred();
         silent();
         middle();
@@ -203,6 +204,29 @@ public final class SayingTest {
         CHECK.due("12 direct is dearer", v.pays(0, 2, 12, 0), 12);
         CHECK.due("12 through 1", v.pays(0, 2, 12, 2), 10);
         CHECK.due("in two then", v.pays(0, 2, 12, 3), 2);
+    }
+
+    /** The way of fewer STEPS leads through later HEIRS than the way of more that COSTS the same. */
+    private static void steps() {
+        NumbersInherited x = new NumbersInherited();
+        Check.heir(x, 0, 0, 2, 5);
+        Check.heir(x, 0, 0, 2, 3);
+        Check.heir(x, 0, 0, 3, 4);
+        Check.heir(x, 0, 0);
+        Check.heir(x, 0, 0, 5, 6);
+        Check.heir(x, 0, 0, 4, 6);
+        // 60 is 30 twos, 20 threes, 15 fours at 2 each: 80; or 12 fives at 5, 10 sixes at 2: 80.
+        Check.text(x, "says 1+(n=4)+(n=5)*4+(n=6);meant 1;worth n;");
+        x.force(1);
+        CHECK.due("either way", x.pays(0, 5, 60, 2), 160);
+        CHECK.due("in the fewest", x.pays(0, 5, 60, 3), 2);
+        CHECK.due("back", x.pays(5, 0, 60, 2), 160);
+        CHECK.due("back in the fewest", x.pays(5, 0, 60, 3), 2);
+        CHECK.due("to nobody", x.pays(0, 3, 60, 3), -1);
+        Check.text(x, "says 1+(n=4)+(n=5)*5+(n=6);meant 1;worth n;");
+        x.force(2);
+        CHECK.due("the longer way is cheaper", x.pays(0, 5, 60, 2), 160);
+        CHECK.due("in three", x.pays(0, 5, 60, 3), 3);
     }
 
     private static void barred() {

@@ -104,6 +104,8 @@ public final class TextsTest {
         fault("says x;", 5);
         fault("says nn;", 5);
         fault("says nz;", 5);
+        fault("says (x1);meant 1;worth 1;", 6);
+        fault("says -x1;meant 1;worth 1;", 6);
         fault("says an;", 5);
         fault("says says;", 5);
         fault("says not;", 8);

@@ -252,6 +252,11 @@ public final class ToldTest {
             shortened |= down < n && above > 0;
         }
         CHECK.isSo("some were not in lowest terms", shortened);
+        // All that the second could pay one of its own is more than any drawing.
+        x.set(2, 0, Check.bits(30));
+        x.set(2, 1, Check.bits(1, 30));
+        CHECK.due("always: above", x.chance(5, 12, 0), 1);
+        CHECK.due("always: below", x.chance(5, 12, 1), 1);
         x.set(2, 0, 1);
         x.set(2, 1, 1);
         CHECK.due("never, in one", x.chance(5, 1, 0), 0);
