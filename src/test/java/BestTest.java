@@ -11,7 +11,7 @@ public final class BestTest {
     }
 
     private static void leave() {
-        NumbersInherited x = new NumbersInherited();
+        Counted x = new Counted();
         Check.heir(x, 0, 0, 1, 2);
         CHECK.due("nobody to leave to", x.leave(0, 0), -1);
         CHECK.due("no worth", x.leave(0, 1), -1);
@@ -43,7 +43,7 @@ public final class BestTest {
 
     /** MEANT and worth are those of the one to whom it is left, with all that one has then. */
     private static void leaveByRule() {
-        NumbersInherited x = new NumbersInherited();
+        Counted x = new Counted();
         Check.heir(x, 0, 0, 1, 2, 3);
         Check.heir(x, 0, 0, 10);
         Check.heir(x, 0, 0, 11);
@@ -54,7 +54,7 @@ public final class BestTest {
     }
 
     private static void buy() {
-        NumbersInherited x = new NumbersInherited();
+        Counted x = new Counted();
         Check.heir(x, 0, 0, 3);
         Check.heir(x, 0, 0, 2, 3, 5);
         // With 2 it is 1 that's barred, with 5 it is 1, 2, 4, 7.
@@ -71,7 +71,7 @@ public final class BestTest {
         CHECK.due("30", x.buy(0, 1, 0), 30);
         CHECK.due("by 30", x.buy(0, 1, 1), 96);
         // ADDING: what is bought makes more.
-        NumbersInherited y = new NumbersInherited();
+        Counted y = new Counted();
         Check.heir(y, 1, 0, 1);
         Check.heir(y, 0, 0, 1);
         CHECK.due("nothing is barred with 1", y.buy(0, 1, 1), 0);
@@ -92,7 +92,7 @@ public final class BestTest {
     }
 
     private static void pawn() {
-        NumbersInherited x = new NumbersInherited();
+        Counted x = new Counted();
         Check.heir(x, 0, 0);
         Check.heir(x, 0, 0, 1, 2, 3);
         CHECK.due("none", x.pawn(0, 1, 0), -1);
@@ -116,7 +116,7 @@ public final class BestTest {
         x.set(2, 0, Check.bits(1));
         CHECK.due("1 alone", x.pawn(0, 1, 0), 1);
         // A TWIN says 6 by MORE and by 12, and 12 by 24: 12 can go.
-        NumbersInherited y = new NumbersInherited();
+        Counted y = new Counted();
         Check.heir(y, 4, 6, 12, 24);
         Check.heir(y, 0, 0, 6, 12);
         CHECK.due("6 and 12 stay", y.pawn(0, 1, 0), 12);

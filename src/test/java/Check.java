@@ -1,5 +1,7 @@
 /** Counts answers that are as due, and prints those that are not. */
 final class Check {
+    static final int CALLS_OF_A_SHEET = 41;
+
     private int passed;
     private int failed;
 
@@ -25,14 +27,14 @@ final class Check {
     }
 
     /** Feeds a text's bytes to THE TAPE. */
-    static void feed(NumbersInherited x, String text) {
+    static void feed(Counted x, String text) {
         for (int i = 0; i < text.length(); i++) {
             x.feed(text.charAt(i));
         }
     }
 
     /** What text() answers of a text on an empty TAPE. */
-    static int text(NumbersInherited x, String text) {
+    static int text(Counted x, String text) {
         feed(x, text);
         return x.text();
     }
@@ -47,14 +49,14 @@ final class Check {
     }
 
     /** A new HEIR with OWN NUMBERS. */
-    static int heir(NumbersInherited x, int kind, int more, int... own) {
+    static int heir(Counted x, int kind, int more, int... own) {
         int heir = x.heir(kind, more);
         x.set(2, heir, bits(own));
         return heir;
     }
 
-    /** A SHEET of a sort with these items. */
-    static void sheet(NumbersInherited x, int sheet, int sort, int... items) {
+    /** A SHEET of a sort with these items: CALLS_OF_A_SHEET at most. */
+    static void sheet(Counted x, int sheet, int sort, int... items) {
         x.sheet(sheet, sort, items.length);
         for (int i = 0; i < items.length; i++) {
             x.cell(sheet, i, items[i]);

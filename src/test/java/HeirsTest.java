@@ -13,7 +13,7 @@ public final class HeirsTest {
     }
 
     private static void newObject() {
-        NumbersInherited x = new NumbersInherited();
+        Counted x = new Counted();
         CHECK.due("new: HEIRS", x.count(0), 0);
         CHECK.due("new: TEXTS", x.count(1), 1);
         CHECK.due("new: THE TAPE", x.count(2), 0);
@@ -28,7 +28,7 @@ public final class HeirsTest {
     }
 
     private static void set() {
-        NumbersInherited x = new NumbersInherited();
+        Counted x = new Counted();
         CHECK.due("DAY without HEIRS", x.set(0, 77, 99), 0);
         CHECK.due("DAY was", x.set(0, -5, 3), 99);
         CHECK.due("DAY too great", x.set(0, 0, 100), -2);
@@ -53,7 +53,7 @@ public final class HeirsTest {
     }
 
     private static void heir() {
-        NumbersInherited x = new NumbersInherited();
+        Counted x = new Counted();
         CHECK.due("KIND too great", x.heir(6, 0), -2);
         CHECK.due("KIND below 0", x.heir(-1, 0), -2);
         CHECK.due("MORE too great", x.heir(0, 10), -2);
@@ -68,7 +68,7 @@ public final class HeirsTest {
         CHECK.due("a seventh that is BAD", x.heir(6, 0), -2);
         CHECK.due("six", x.count(0), 6);
         // Room that an HEIR had who went is a new one's without his NUMBERS.
-        NumbersInherited y = new NumbersInherited();
+        Counted y = new Counted();
         y.image();
         Check.heir(y, 1, 3, 5);
         y.back();
@@ -79,7 +79,7 @@ public final class HeirsTest {
     }
 
     private static void give() {
-        NumbersInherited x = new NumbersInherited();
+        Counted x = new Counted();
         Check.heir(x, 0, 0, 1, 15, 30);
         Check.heir(x, 1, 0, 15);
         CHECK.due("given", x.give(0, 1, 30), 2);
@@ -100,7 +100,7 @@ public final class HeirsTest {
     }
 
     private static void told() {
-        NumbersInherited x = new NumbersInherited();
+        Counted x = new Counted();
         x.set(0, 0, 42);
         CHECK.due("DAY, of whom does not matter", x.told(17, 0), 42);
         Check.heir(x, 3, 7, 3, 10);

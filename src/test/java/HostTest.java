@@ -14,7 +14,7 @@ public final class HostTest {
     }
 
     private static void sheet() {
-        NumbersInherited x = new NumbersInherited();
+        Counted x = new Counted();
         CHECK.due("SHEET too great", x.sheet(4, 0, 1), -2);
         CHECK.due("SHEET below 0", x.sheet(-1, 0, 1), -2);
         CHECK.due("no such sort", x.sheet(0, 3, 1), -2);
@@ -42,7 +42,7 @@ public final class HostTest {
     }
 
     private static void cell() {
-        NumbersInherited x = new NumbersInherited();
+        Counted x = new Counted();
         CHECK.due("SHEET too great", x.cell(4, 0, 1), -2);
         CHECK.due("SHEET below 0", x.cell(-1, 0, 1), -2);
         CHECK.due("missing ahead of a place", x.cell(0, -1, 1), -11);
@@ -61,7 +61,7 @@ public final class HostTest {
     }
 
     private static void item(int sort, int v, int more) {
-        NumbersInherited x = new NumbersInherited();
+        Counted x = new Counted();
         x.sheet(0, sort, 2);
         CHECK.due("cell of sort " + sort, x.cell(0, 1, v), 1);
         CHECK.due("HEIR by " + v, x.heirs(0, sort, 0, 1), more < 0 ? 0 : 1);
@@ -69,7 +69,7 @@ public final class HostTest {
     }
 
     private static void copy() {
-        NumbersInherited x = new NumbersInherited();
+        Counted x = new Counted();
         Check.sheet(x, 0, 2, 1, 2, 3, 4, 5, 6);
         Check.sheet(x, 1, 2, 0, 0, 0, 0);
         CHECK.due("three", x.copy(0, 2, 1, 1, 3), 3);
@@ -85,7 +85,7 @@ public final class HostTest {
     }
 
     /** The first items of a SHEET of ints, each seen as MORE of an HEIR in another object's like SHEET. */
-    private static void items(NumbersInherited x, int sheet, int... want) {
+    private static void items(Counted x, int sheet, int... want) {
         x.image();
         for (int i = 0; i < want.length; i++) {
             x.sheet(3, 2, 2);
@@ -97,7 +97,7 @@ public final class HostTest {
     }
 
     private static void copyRefused() {
-        NumbersInherited x = new NumbersInherited();
+        Counted x = new Counted();
         x.sheet(0, 1, 6);
         x.sheet(1, 1, 4);
         x.sheet(2, 2, 4);
@@ -120,7 +120,7 @@ public final class HostTest {
     }
 
     private static void heirs() {
-        NumbersInherited x = new NumbersInherited();
+        Counted x = new Counted();
         Check.sheet(x, 0, 0, 9, 3, 7, 6, 0, 2, 10, 5, 1);
         CHECK.due("two of four", x.heirs(0, 0, 1, 4), 2);
         CHECK.due("KIND 3", x.told(0, 3), 3);
@@ -137,7 +137,7 @@ public final class HostTest {
     }
 
     private static void heirsRefused() {
-        NumbersInherited x = new NumbersInherited();
+        Counted x = new Counted();
         Check.sheet(x, 0, 1, 0, 1, 0, 2, 0);
         CHECK.due("SHEET too great", x.heirs(4, 0, 0, 1), -2);
         CHECK.due("SHEET below 0", x.heirs(-1, 0, 0, 1), -2);
@@ -161,7 +161,7 @@ public final class HostTest {
     }
 
     private static void taken() {
-        NumbersInherited x = new NumbersInherited();
+        Counted x = new Counted();
         for (int kind = 0; kind < 6; kind++) {
             x.heir(kind, kind + 3);
         }

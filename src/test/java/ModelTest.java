@@ -8,9 +8,13 @@ public final class ModelTest {
     private static final int FAMILIES = 60;
     private static final int TEXTS = 20_000;
 
+    // What it takes to make a family anew leaves room for questions.
+    private static final int MOST_BYTES = 300;
+
     private final Random random;
-    private final NumbersInherited x = new NumbersInherited();
     private final Model model = new Model();
+    private final List<String> texts = new ArrayList<>();
+    private Counted object = new Counted();
 
     private ModelTest(long seed) {
         random = new Random(seed);
@@ -33,7 +37,7 @@ public final class ModelTest {
             String text = spoiled(random, text(random));
             int want = new TextReader(text).read().fault;
             stood += want == Model.NONE ? 1 : 0;
-            CHECK.due("text of " + text, Check.text(new NumbersInherited(), text), want < 0 ? 1 : -100 - want);
+            CHECK.due("text of " + text, Check.text(new Counted(), text), want < 0 ? 1 : -100 - want);
         }
         CHECK.isSo("some TEXTS stood, some did not", stood > TEXTS / 5 && stood < TEXTS * 4 / 5);
     }
@@ -121,13 +125,37 @@ public final class ModelTest {
         }
     }
 
+    /** An object with the model's family that can still take so many calls. */
+    private Counted with(int calls) {
+        if (object.left() < calls) {
+            object = new Counted();
+            for (int i = 0; i < texts.size(); i++) {
+                CHECK.due("text of " + texts.get(i), Check.text(object, texts.get(i)), i + 1);
+            }
+            for (Model.Person person : model.people) {
+                CHECK.due("heir", object.heir(person.kind, person.more), person.number);
+                CHECK.due("set", object.set(2, person.number, bits(person)), 0);
+            }
+            CHECK.due("set DAY", object.set(0, 0, model.day), 0);
+            CHECK.due("force", object.force(model.rule), 0);
+        }
+        return object;
+    }
+
+    private Counted x() {
+        return with(1);
+    }
+
     private void addTexts() {
+        int bytes = 0;
         for (int i = 0; i < random.nextInt(6); i++) {
             String text = text(random);
             Model.Text read = new TextReader(text).read();
-            if (read.fault == Model.NONE) {
+            bytes += text.length();
+            if (read.fault == Model.NONE && bytes <= MOST_BYTES) {
+                CHECK.due("text of " + text, Check.text(object, text), texts.size() + 1);
+                texts.add(text);
                 model.texts.add(read);
-                CHECK.due("text of " + text, Check.text(x, text), model.texts.size() - 1);
             }
         }
         change();
@@ -142,6 +170,7 @@ public final class ModelTest {
         for (int n = 1; n <= 30; n++) {
             person.own[n] = random.nextInt(shape == 0 ? 12 : shape == 1 ? 5 : 3) == 0 && (shape < 2 || n % 3 == 0);
         }
+        Counted x = with(2);
         CHECK.due("heir", x.heir(person.kind, person.more), person.number);
         CHECK.due("set", x.set(2, person.number, bits(person)), 0);
         model.people.add(person);
@@ -156,6 +185,7 @@ public final class ModelTest {
     }
 
     private void change() {
+        Counted x = with(3);
         int day = random.nextInt(100);
         CHECK.due("set DAY", x.set(0, 0, day), model.day);
         model.day = day;
@@ -179,18 +209,18 @@ public final class ModelTest {
 
     private void askEach() {
         for (Model.Person a : model.people) {
-            CHECK.due("own", x.told(a.number, 2), bits(a));
-            CHECK.due("many", x.told(a.number, 4), a.many());
+            CHECK.due("own", x().told(a.number, 2), bits(a));
+            CHECK.due("many", x().told(a.number, 4), a.many());
             int sayable = 0;
             for (int n = 1; n <= 30; n++) {
                 sayable |= a.can(n) ? 1 << n - 1 : 0;
-                CHECK.due("says", x.says(a.number, n, 0), a.can(n) ? 1 : 0);
-                CHECK.due("costs", x.says(a.number, n, 1), model.costs(a, n, model.rule));
+                CHECK.due("says", x().says(a.number, n, 0), a.can(n) ? 1 : 0);
+                CHECK.due("costs", x().says(a.number, n, 1), model.costs(a, n, model.rule));
             }
-            CHECK.due("sayable", x.told(a.number, 5), sayable);
+            CHECK.due("sayable", x().told(a.number, 5), sayable);
             for (int sum = 0; sum < 100; sum++) {
-                CHECK.due("meant", x.says(a.number, sum, 2), model.meant(a, sum) ? 1 : 0);
-                CHECK.due("worth", x.says(a.number, sum, 3), model.worth(a, sum));
+                CHECK.due("meant", x().says(a.number, sum, 2), model.meant(a, sum) ? 1 : 0);
+                CHECK.due("worth", x().says(a.number, sum, 3), model.worth(a, sum));
             }
         }
     }
@@ -211,28 +241,28 @@ public final class ModelTest {
         for (int n : model.common(a, b)) {
             common |= 1 << n - 1;
         }
-        CHECK.due("common", x.common(a.number, b.number), common);
+        CHECK.due("common", x().common(a.number, b.number), common);
         long[] pays = model.pays(a, b, model.rule);
         long[] fewest = model.fewest(a, b);
         for (int sum = 0; sum < 100; sum++) {
-            CHECK.due("pays", x.pays(a.number, b.number, sum, 0), pays[sum]);
-            CHECK.due("fewest", x.pays(a.number, b.number, sum, 1), fewest[sum]);
+            CHECK.due("pays", x().pays(a.number, b.number, sum, 0), pays[sum]);
+            CHECK.due("fewest", x().pays(a.number, b.number, sum, 1), fewest[sum]);
         }
         for (int i = 0; i < 8; i++) {
             int sum = i == 0 ? 0 : random.nextInt(100);
             long[] through = model.through(a.number, b.number, sum, Model.NONE);
-            CHECK.due("through", x.pays(a.number, b.number, sum, 2), through[0]);
-            CHECK.due("steps", x.pays(a.number, b.number, sum, 3), through[1]);
+            CHECK.due("through", x().pays(a.number, b.number, sum, 2), through[0]);
+            CHECK.due("steps", x().pays(a.number, b.number, sum, 3), through[1]);
         }
         long[] barred = model.barred(a, b);
         for (int what = 0; what < 3; what++) {
-            CHECK.due("barred", x.barred(a.number, b.number, what), barred[what]);
+            CHECK.due("barred", x().barred(a.number, b.number, what), barred[what]);
         }
         long[] buy = model.buy(a, b);
         long[] pawn = model.pawn(a, b);
         for (int what = 0; what < 2; what++) {
-            CHECK.due("buy", x.buy(a.number, b.number, what), buy[what]);
-            CHECK.due("pawn", x.pawn(a.number, b.number, what), pawn[what]);
+            CHECK.due("buy", x().buy(a.number, b.number, what), buy[what]);
+            CHECK.due("pawn", x().pawn(a.number, b.number, what), pawn[what]);
         }
         askRows(a, b, pays);
     }
@@ -243,10 +273,12 @@ public final class ModelTest {
             rows[i] = random.nextInt(100);
             rows[i + 1] = (int) pays[rows[i]] + (random.nextInt(25) == 0 ? 1 : 0);
         }
+        Counted x = with(Check.CALLS_OF_A_SHEET + 6);
         Check.sheet(x, 0, 2, rows);
         for (int what = 0; what < 6; what++) {
             CHECK.due("rows " + what, x.rows(0, a.number, b.number, what), model.rows(rows, a, b, what));
         }
+        x = with(7);
         int from = random.nextInt(100);
         int n = random.nextInt(21);
         int many = Math.min(n, 100 - from);
@@ -265,18 +297,18 @@ public final class ModelTest {
     private void askAll() {
         long[] silent = model.silent();
         for (int what = 0; what < 2; what++) {
-            CHECK.due("silent", x.silent(what), silent[what]);
+            CHECK.due("silent", x().silent(what), silent[what]);
         }
         for (int i = 0; i < 3; i++) {
             int sum = 1 + random.nextInt(99);
             long[] middle = model.middle(sum);
-            CHECK.due("middle", x.middle(sum, 0), middle[0]);
-            CHECK.due("middle's pairs", x.middle(sum, 1), middle[1]);
+            CHECK.due("middle", x().middle(sum, 0), middle[0]);
+            CHECK.due("middle's pairs", x().middle(sum, 1), middle[1]);
         }
         for (int heir = 0; heir < model.people.size(); heir++) {
             long[] leave = model.leave(heir);
-            CHECK.due("leave", x.leave(heir, 0), leave[0]);
-            CHECK.due("leave's worth", x.leave(heir, 1), leave[1]);
+            CHECK.due("leave", x().leave(heir, 0), leave[0]);
+            CHECK.due("leave's worth", x().leave(heir, 1), leave[1]);
         }
         if (model.people.size() >= 2) {
             askChance();
@@ -290,14 +322,14 @@ public final class ModelTest {
         int above = 0;
         for (int i = 0; i < n; i++) {
             int drawn = model.drawn(seed + i);
-            CHECK.due("drawn", x.drawn(seed + i), drawn);
+            CHECK.due("drawn", x().drawn(seed + i), drawn);
             above += drawn > now ? 1 : 0;
         }
         int measure = n;
         while (above % measure != 0 || n % measure != 0) {
             measure--;
         }
-        CHECK.due("chance", x.chance(seed, n, 0), above / measure);
-        CHECK.due("chance's other part", x.chance(seed, n, 1), n / measure);
+        CHECK.due("chance", x().chance(seed, n, 0), above / measure);
+        CHECK.due("chance's other part", x().chance(seed, n, 1), n / measure);
     }
 }

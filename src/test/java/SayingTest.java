@@ -17,7 +17,7 @@ public final class SayingTest {
     }
 
     private static void sayable(int kind, int more, int[] own, int want) {
-        NumbersInherited x = new NumbersInherited();
+        Counted x = new Counted();
         Check.heir(x, kind, more, own);
         CHECK.due("KIND " + kind + " can say", x.told(0, 5), want);
         for (int n = 1; n <= 30; n++) {
@@ -40,7 +40,7 @@ public final class SayingTest {
     }
 
     private static void costs(int v, int... want) {
-        NumbersInherited x = new NumbersInherited();
+        Counted x = new Counted();
         Check.text(x, "says " + v + ";meant 1;worth 1;");
         x.force(1);
         for (int kind = 0; kind < 6; kind++) {
@@ -55,7 +55,7 @@ public final class SayingTest {
         costs(2, 2, 3, 7, 1, 7, 4);
         costs(3, 3, 4, 8, 2, 8, 6);
         costs(9999, 99, 100, 104, 50, 104, 198);
-        NumbersInherited x = new NumbersInherited();
+        Counted x = new Counted();
         x.heir(2, 0);
         Check.text(x, "says 0-5;meant 1;worth 1;");
         x.force(1);
@@ -63,7 +63,7 @@ public final class SayingTest {
     }
 
     private static void says() {
-        NumbersInherited x = new NumbersInherited();
+        Counted x = new Counted();
         Check.heir(x, 0, 0, 4);
         CHECK.due("can", x.says(0, 4, 0), 1);
         CHECK.due("can't", x.says(0, 5, 0), 0);
@@ -84,7 +84,7 @@ public final class SayingTest {
     }
 
     private static void common() {
-        NumbersInherited x = new NumbersInherited();
+        Counted x = new Counted();
         Check.heir(x, 1, 0, 3, 4);
         Check.heir(x, 2, 0, 12, 14, 4);
         CHECK.due("COMMON", x.common(0, 1), Check.bits(4, 6, 7));
@@ -95,7 +95,7 @@ public final class SayingTest {
     }
 
     private static void pays() {
-        NumbersInherited x = new NumbersInherited();
+        Counted x = new Counted();
         Check.heir(x, 0, 0, 3, 5, 10);
         Check.heir(x, 5, 0, 3, 5, 10);
         // 3 costs 1, 5 costs 2, 10 costs 20: three times what it is for the two of them.
@@ -125,7 +125,7 @@ public final class SayingTest {
         CHECK.due("no such what", x.pays(0, 1, 1, 4), -2);
         CHECK.due("what below 0", x.pays(0, 1, 1, -1), -2);
         // As dear as can be: 99 PARTS of 1, of 198 to each of two.
-        NumbersInherited y = new NumbersInherited();
+        Counted y = new Counted();
         Check.heir(y, 5, 9, 1);
         Check.heir(y, 5, 9, 1);
         Check.text(y, "says 99;meant 1;worth 1;");
@@ -135,7 +135,7 @@ public final class SayingTest {
     }
 
     private static void through() {
-        NumbersInherited x = new NumbersInherited();
+        Counted x = new Counted();
         // HALVING ones say each NUMBER for 10: through 2 it is 11 and 11, at once it is 20.
         Check.heir(x, 2, 9, 10, 6);
         Check.heir(x, 0, 0, 5);
@@ -147,7 +147,7 @@ public final class SayingTest {
         CHECK.due("no way to 1 but through 2", x.pays(0, 1, 6, 2), -1);
         CHECK.due("no steps", x.pays(0, 1, 6, 3), -1);
 
-        NumbersInherited y = new NumbersInherited();
+        Counted y = new Counted();
         Check.heir(y, 0, 0, 2, 9);
         Check.heir(y, 0, 0, 9, 4);
         Check.heir(y, 0, 0, 4, 2);
@@ -167,7 +167,7 @@ public final class SayingTest {
         CHECK.due("direct, in one", y.pays(0, 1, 36, 3), 1);
 
         // Two ways of the same COSTS, the one in 1, the other in 2.
-        NumbersInherited z = new NumbersInherited();
+        Counted z = new Counted();
         Check.heir(z, 0, 0, 6, 12);
         Check.heir(z, 0, 0, 12);
         Check.heir(z, 0, 0, 6, 12);
@@ -178,7 +178,7 @@ public final class SayingTest {
         CHECK.due("in one", z.pays(0, 2, 12, 3), 1);
 
         // A chain of six: the only way goes through all.
-        NumbersInherited w = new NumbersInherited();
+        Counted w = new Counted();
         for (int i = 0; i < 6; i++) {
             Check.heir(w, 0, 0, i + 1, i + 2);
         }
@@ -190,7 +190,7 @@ public final class SayingTest {
         CHECK.due("part of it", w.pays(0, 2, 30, 2), 2 * (15 + 10));
 
         // Like COSTS, unlike STEPS: 12 is at once dear as through another one.
-        NumbersInherited v = new NumbersInherited();
+        Counted v = new Counted();
         Check.heir(v, 0, 0, 12, 6);
         Check.heir(v, 0, 0, 6, 4);
         Check.heir(v, 0, 0, 12, 4);
@@ -208,7 +208,7 @@ public final class SayingTest {
 
     /** The way of fewer STEPS leads through later HEIRS than the way of more that COSTS the same. */
     private static void steps() {
-        NumbersInherited x = new NumbersInherited();
+        Counted x = new Counted();
         Check.heir(x, 0, 0, 2, 5);
         Check.heir(x, 0, 0, 2, 3);
         Check.heir(x, 0, 0, 3, 4);
@@ -230,7 +230,7 @@ public final class SayingTest {
     }
 
     private static void barred() {
-        NumbersInherited x = new NumbersInherited();
+        Counted x = new Counted();
         Check.heir(x, 0, 0, 2, 30);
         Check.heir(x, 0, 0, 2);
         Check.heir(x, 0, 0, 1);
@@ -258,7 +258,7 @@ public final class SayingTest {
     }
 
     private static void silent() {
-        NumbersInherited x = new NumbersInherited();
+        Counted x = new Counted();
         CHECK.due("no HEIRS", x.silent(0), 99);
         CHECK.due("no HEIRS, the first", x.silent(1), 1);
         Check.heir(x, 0, 0, 1);
@@ -281,7 +281,7 @@ public final class SayingTest {
     }
 
     private static void middle() {
-        NumbersInherited x = new NumbersInherited();
+        Counted x = new Counted();
         CHECK.due("no HEIRS", x.middle(1, 0), -1);
         CHECK.due("no pairs", x.middle(1, 1), 0);
         Check.heir(x, 0, 0, 2);
@@ -304,7 +304,7 @@ public final class SayingTest {
         CHECK.due("no such what", x.middle(12, 2), -2);
         CHECK.due("what below 0", x.middle(12, -1), -2);
         // The first HEIR between all others; like ones: the first.
-        NumbersInherited z = new NumbersInherited();
+        Counted z = new Counted();
         Check.heir(z, 0, 0, 2, 3, 5);
         Check.heir(z, 0, 0, 2);
         Check.heir(z, 0, 0, 3);
@@ -317,7 +317,7 @@ public final class SayingTest {
         CHECK.due("35", z.middle(35, 0), 4);
         CHECK.due("35's pairs", z.middle(35, 1), 2);
         // A ring has no middle.
-        NumbersInherited y = new NumbersInherited();
+        Counted y = new Counted();
         Check.heir(y, 0, 0, 1, 2);
         Check.heir(y, 0, 0, 2, 3);
         Check.heir(y, 0, 0, 3, 1);

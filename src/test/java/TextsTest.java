@@ -14,7 +14,7 @@ public final class TextsTest {
     }
 
     private static void feed() {
-        NumbersInherited x = new NumbersInherited();
+        Counted x = new Counted();
         CHECK.due("feed(0)", x.feed(0), 1);
         CHECK.due("feed(255)", x.feed(255), 2);
         CHECK.due("feed(256)", x.feed(256), -2);
@@ -32,7 +32,7 @@ public final class TextsTest {
     }
 
     private static void text() {
-        NumbersInherited x = new NumbersInherited();
+        Counted x = new Counted();
         for (int i = 1; i < 6; i++) {
             CHECK.due("TEXT " + i, Check.text(x, "says " + i + ";meant 1;worth n;"), i);
             CHECK.due("TEXTS", x.count(1), i + 1);
@@ -49,29 +49,27 @@ public final class TextsTest {
         while (longest.length() < 159) {
             longest.append("+1");
         }
-        NumbersInherited y = new NumbersInherited();
+        Counted y = new Counted();
         CHECK.due("160 bytes", Check.text(y, longest + ";"), 1);
         y.force(1);
         y.heir(0, 0);
         CHECK.due("its worth", y.says(0, 1, 3), 69);
-        // Long ones behind each other, FAULTS among them, keep none of their room from the next.
-        for (int i = 2; i < 5; i++) {
-            CHECK.due("spoiled at its end", Check.text(y, longest + "n"), -259);
-            CHECK.due("160 bytes again", Check.text(y, longest + ";"), i);
-            y.force(i);
-            CHECK.due("its worth", y.says(0, 2, 3), 70);
-        }
+        // One behind another, a FAULT between, keeps none of its room from the next.
+        CHECK.due("spoiled at its end", Check.text(y, longest + "n"), -259);
+        CHECK.due("160 bytes again", Check.text(y, longest + ";"), 2);
+        y.force(2);
+        CHECK.due("its worth", y.says(0, 2, 3), 70);
     }
 
     private static void fault(String text, int place) {
-        NumbersInherited x = new NumbersInherited();
+        Counted x = new Counted();
         CHECK.due("text of " + text, Check.text(x, text), -100 - place);
         CHECK.due("no TEXT of " + text, x.count(1), 1);
         CHECK.due("empty after " + text, x.count(2), 0);
     }
 
     private static void stands(String text) {
-        NumbersInherited x = new NumbersInherited();
+        Counted x = new Counted();
         CHECK.due("text of " + text, Check.text(x, text), 1);
     }
 
@@ -154,7 +152,7 @@ public final class TextsTest {
     }
 
     private static void force() {
-        NumbersInherited x = new NumbersInherited();
+        Counted x = new Counted();
         x.heir(0, 0);
         CHECK.due("no such TEXT", x.force(1), -2);
         CHECK.due("TEXT below 0", x.force(-1), -2);
@@ -173,7 +171,7 @@ public final class TextsTest {
 
     /** What an E is, by the worth of a SUM 10 on DAY 20. */
     private static void worth(String e, int want) {
-        NumbersInherited x = new NumbersInherited();
+        Counted x = new Counted();
         x.set(0, 0, 20);
         x.heir(0, 3);
         x.set(2, 0, Check.bits(10, 11));
@@ -227,7 +225,7 @@ public final class TextsTest {
         worth("many", 2);
         worth("heir + 4", 4);
         worth("day", 20);
-        NumbersInherited x = new NumbersInherited();
+        Counted x = new Counted();
         Check.heir(x, 0, 0);
         Check.heir(x, 0, 5, 3, 9, 20);
         x.set(0, 0, 7);

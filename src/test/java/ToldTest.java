@@ -17,7 +17,7 @@ public final class ToldTest {
     }
 
     private static void rows() {
-        NumbersInherited x = new NumbersInherited();
+        Counted x = new Counted();
         Check.heir(x, 0, 4, 3, 5);
         Check.heir(x, 0, 0, 3, 5, 6, 8, 14);
         Check.sheet(x, 0, 2, 3, 2, 7, -1, 10, 4, 0, 0);
@@ -42,7 +42,7 @@ public final class ToldTest {
         CHECK.due("8 is 5 and 3", x.rows(1, 0, 1, 0), -1);
         CHECK.due("MAY of 8", x.rows(1, 0, 1, 5), ALL & ~Check.bits(3, 5, 6, 8, 14));
         // MORE of a TWIN: 4 makes 4, 5 of 5 makes nothing more.
-        NumbersInherited y = new NumbersInherited();
+        Counted y = new Counted();
         Check.heir(y, 4, 4, 30);
         Check.heir(y, 0, 0, 4, 8, 15);
         Check.sheet(y, 0, 0, 4, 6);
@@ -53,7 +53,7 @@ public final class ToldTest {
         CHECK.due("MAY have any other", y.rows(0, 0, 1, 5), ALL & ~Check.bits(30));
         CHECK.due("nothing has changed", y.told(0, 1) * 10 + y.told(0, 3), 44);
         // All that is told of MANY with MORE up to 5.
-        NumbersInherited z = new NumbersInherited();
+        Counted z = new Counted();
         Check.heir(z, 5, 2);
         Check.heir(z, 0, 0, 26);
         Check.sheet(z, 0, 1, 26, 3, 52, 6);
@@ -61,7 +61,7 @@ public final class ToldTest {
         CHECK.due("MORES of MANY", z.rows(0, 0, 1, 2), 63);
         CHECK.due("KINDS", z.rows(0, 0, 1, 1), 32);
         // 30 and 1 are OWN as others are.
-        NumbersInherited w = new NumbersInherited();
+        Counted w = new Counted();
         Check.heir(w, 0, 0, 1, 30);
         Check.heir(w, 0, 0, 1, 30);
         Check.sheet(w, 0, 2, 30, 2, 31, 4);
@@ -81,7 +81,7 @@ public final class ToldTest {
     }
 
     private static void rowsByText() {
-        NumbersInherited x = new NumbersInherited();
+        Counted x = new Counted();
         Check.heir(x, 1, 0, 3);
         Check.heir(x, 0, 0, 3, 6);
         Check.text(x, "says n;meant 1;worth 1;");
@@ -105,7 +105,7 @@ public final class ToldTest {
     }
 
     private static void rowsOfSorts() {
-        NumbersInherited x = new NumbersInherited();
+        Counted x = new Counted();
         Check.heir(x, 5, 0, 1);
         Check.heir(x, 5, 0, 1);
         Check.text(x, "says 99;meant 1;worth 1;");
@@ -131,7 +131,7 @@ public final class ToldTest {
     }
 
     private static void rowsRefused() {
-        NumbersInherited x = new NumbersInherited();
+        Counted x = new Counted();
         x.heir(0, 0);
         x.heir(0, 0);
         Check.sheet(x, 0, 2, 1, -1, 2);
@@ -153,7 +153,7 @@ public final class ToldTest {
     }
 
     private static void film() {
-        NumbersInherited x = new NumbersInherited();
+        Counted x = new Counted();
         Check.heir(x, 0, 0, 3, 5);
         Check.heir(x, 0, 0, 3, 5);
         CHECK.due("20 rows", x.film(0, 1, 0, 20), 20);
@@ -193,13 +193,13 @@ public final class ToldTest {
     }
 
     private static void drawn() {
-        NumbersInherited x = new NumbersInherited();
+        Counted x = new Counted();
         CHECK.due("no HEIRS", x.drawn(1), -3);
         x.heir(0, 0);
         CHECK.due("one HEIR", x.drawn(1), -3);
         x.heir(0, 0);
         for (int seed = -40; seed < 40; seed++) {
-            NumbersInherited y = new NumbersInherited();
+            Counted y = new Counted();
             y.heir(0, 0);
             y.heir(0, 0);
             int next = setDrawn(y, 0, seed * 77777777);
@@ -208,7 +208,7 @@ public final class ToldTest {
         }
         CHECK.due("nothing has changed", x.count(4), 0);
         // Each as it is: a CLERK pays one of MANY, whose MORE lets him say more.
-        NumbersInherited w = new NumbersInherited();
+        Counted w = new Counted();
         w.heir(3, 0);
         w.heir(5, 0);
         for (int seed = 0; seed < 20; seed++) {
@@ -223,7 +223,7 @@ public final class ToldTest {
     }
 
     /** The SEED of the next one. */
-    private static int setDrawn(NumbersInherited x, int heir, int seed) {
+    private static int setDrawn(Counted x, int heir, int seed) {
         int z = seed * 1103515245 + 12345;
         int y = z * 1103515245 + 12345;
         x.set(2, heir, ((y >>> 9) & 1023) << 10 | (z >>> 9) & 1023);
@@ -231,7 +231,7 @@ public final class ToldTest {
     }
 
     private static void chance() {
-        NumbersInherited x = new NumbersInherited();
+        Counted x = new Counted();
         CHECK.due("no HEIRS", x.chance(0, 1, 0), NumbersInherited.NO);
         x.heir(0, 0);
         CHECK.due("one HEIR", x.chance(0, 1, 0), NumbersInherited.NO);
@@ -280,7 +280,7 @@ public final class ToldTest {
     }
 
     private static void imageAndBack() {
-        NumbersInherited x = new NumbersInherited();
+        Counted x = new Counted();
         CHECK.due("no IMAGE", x.back(), -3);
         CHECK.due("IMAGE of none", x.image(), 0);
         x.heir(0, 0);
@@ -324,7 +324,7 @@ public final class ToldTest {
     }
 
     private static void count() {
-        NumbersInherited x = new NumbersInherited();
+        Counted x = new Counted();
         Check.heir(x, 0, 0, 1, 2, 3);
         Check.heir(x, 0, 0, 3, 4);
         CHECK.due("HEIRS", x.count(0), 2);
