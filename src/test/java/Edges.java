@@ -1,5 +1,8 @@
-/** Calls at the edges that the document names, each on an object of its own; a sentence's name stands ahead. */
-final class Edges {
+/**
+ * Calls at the edges that the document names, each on an object of its own; what the document says of it stands ahead.
+ * The tests of edges extend it for its names.
+ */
+class Edges {
     static final int BAD = -2, STATE = -3, FULL = -4, NOTHING = -11, OUTSIDE = -12, UNLIKE = -13, BELOW_ZERO = -14;
 
     /** Outside of what each of these can be; HEIRS and TEXTS as of Scene.FAMILY. */
@@ -55,6 +58,35 @@ final class Edges {
         }
     }
 
+    /** What a call answers behind a setting. */
+    static long ask(Scene scene, Setting setting, Call call) {
+        Counted x = scene.make();
+        setting.of(x);
+        return call.on(x);
+    }
+
+    /** HEIRS without KIND or MORE, each with its OWN. */
+    static Setting family(int[]... owns) {
+        return x -> {
+            for (int[] own : owns) {
+                Check.heir(x, 0, 0, own);
+            }
+        };
+    }
+
+    static int[] own(int... numbers) {
+        return numbers;
+    }
+
+    /** The same family, and a TEXT as THE RULE. */
+    static Setting rule(Setting family, String text) {
+        return x -> {
+            family.of(x);
+            x.force(Check.text(x, text));
+        };
+    }
+
+    /** What is just outside of least .. most, and far outside. */
     static int[] whats(int least, int most) {
         return new int[] {least - 1, most + 1, Integer.MIN_VALUE, Integer.MAX_VALUE};
     }

@@ -1,5 +1,5 @@
 /** The edges of promises 15 to 17: leave, buy, pawn. */
-public final class EdgesBestTest {
+public final class EdgesBestTest extends Edges {
     private static final Edges E = new Edges();
     private static final int NONE = NumbersInherited.NONE;
 
@@ -15,27 +15,7 @@ public final class EdgesBestTest {
         E.close();
     }
 
-    /** HEIRS without KIND or MORE, each with its OWN. */
-    private static Edges.Setting family(int[]... owns) {
-        return x -> {
-            for (int[] own : owns) {
-                Check.heir(x, 0, 0, own);
-            }
-        };
-    }
-
-    private static Edges.Setting rule(Edges.Setting family, String text) {
-        return x -> {
-            family.of(x);
-            x.force(Check.text(x, text));
-        };
-    }
-
-    private static int[] own(int... numbers) {
-        return numbers;
-    }
-
-    private static void both(String sentence, Edges.Setting setting, Edges.CallWith call, int... want) {
+    private static void both(String sentence, Setting setting, CallWith call, int... want) {
         for (int what = 0; what < 2; what++) {
             int w = what;
             E.changesNothing(sentence + ", what " + what, Scene.NEW, setting, x -> call.on(x, w), want[what]);
@@ -47,15 +27,15 @@ public final class EdgesBestTest {
     private static void leaveBad() {
         for (int what = 0; what < 2; what++) {
             int w = what;
-            E.changesNothing("leave: no HEIR", Scene.FAMILY, Edges.NO_HEIR, (x, v) -> x.leave(v, w), Edges.BAD);
-            E.changesNothing("leave: nobody", Scene.NEW, x -> x.leave(0, w), Edges.BAD);
-            E.changesNothing("leave: no seventh", Scene.FULL, x -> x.leave(6, w), Edges.BAD);
+            E.changesNothing("leave: no HEIR", Scene.FAMILY, NO_HEIR, (x, v) -> x.leave(v, w), BAD);
+            E.changesNothing("leave: nobody", Scene.NEW, x -> x.leave(0, w), BAD);
+            E.changesNothing("leave: no seventh", Scene.FULL, x -> x.leave(6, w), BAD);
         }
-        E.changesNothing("leave: no such what", Scene.FAMILY, Edges.whats(0, 1), (x, v) -> x.leave(0, v), Edges.BAD);
-        both("leave: BAD though there is no other one", family(own(1)), (x, what) -> x.leave(1, what), Edges.BAD,
-            Edges.BAD);
+        E.changesNothing("leave: no such what", Scene.FAMILY, whats(0, 1), (x, v) -> x.leave(0, v), BAD);
+        both("leave: BAD though there is no other one", family(own(1)), (x, what) -> x.leave(1, what), BAD,
+            BAD);
         E.changesNothing("leave: no such what though there is no other one", Scene.NEW, family(own(1)),
-            x -> x.leave(0, 2), Edges.BAD);
+            x -> x.leave(0, 2), BAD);
     }
 
     private static void leaveAlone() {
@@ -67,23 +47,23 @@ public final class EdgesBestTest {
     }
 
     private static void leave() {
-        Edges.Setting none = family(own(), own(), own());
+        Setting none = family(own(), own(), own());
         both("LEAVE: of like ones the first", none, (x, what) -> x.leave(0, what), 1, 4950);
         both("LEAVE: of like ones the first", none, (x, what) -> x.leave(1, what), 0, 4950);
         both("LEAVE: of like ones the first", none, (x, what) -> x.leave(2, what), 0, 4950);
-        Edges.Setting ones = family(own(1), own(1), own(1));
+        Setting ones = family(own(1), own(1), own(1));
         both("LEAVE: nothing is BARRED", ones, (x, what) -> x.leave(0, what), 1, 0);
         both("LEAVE: nothing is BARRED", ones, (x, what) -> x.leave(2, what), 0, 0);
         // 1 that is left to HEIR 5, who is ADDING, makes 2, which all have but him; else 2s can't be paid to him.
-        Edges.Setting last = x -> {
+        Setting last = x -> {
             family(own(1), own(2), own(2), own(2), own(2)).of(x);
             x.heir(1, 0);
         };
         both("LEAVE: to the last of six", last, (x, what) -> x.leave(0, what), 5, 4 * 2500);
-        Edges.Setting first = family(own(), own(3), own(3), own(3), own(3), own(1));
+        Setting first = family(own(), own(3), own(3), own(3), own(3), own(1));
         both("LEAVE: nothing helps but threes", first, (x, what) -> x.leave(5, what), 1, 4950 + 3 * 3267);
         // All OWN ones are left, also with what the other one has.
-        Edges.Setting all = family(own(1, 2, 30), own(3), own(1, 2, 3, 30));
+        Setting all = family(own(1, 2, 30), own(3), own(1, 2, 3, 30));
         both("LEAVE: all OWN NUMBERS", all, (x, what) -> x.leave(0, what), 1, 0);
         both("LEAVE: to one of two, the other one is paid by him", all, (x, what) -> x.leave(1, what), 0, 0);
         both("LEAVE: not to be paid by the HEIR", family(own(1), own(2), own(2)), (x, what) -> x.leave(1, what), 0, 2500);
@@ -91,7 +71,7 @@ public final class EdgesBestTest {
     }
 
     private static void leaveByRule() {
-        Edges.Setting three = family(own(7, 8), own(9), own(9));
+        Setting three = family(own(7, 8), own(9), own(9));
         both("LEAVE: many of all that one has then",
             rule(three, "says 1;meant n=1;worth many*10;"), (x, what) -> x.leave(0, what), 1, 30);
         both("LEAVE: heir is the other one",
@@ -108,22 +88,22 @@ public final class EdgesBestTest {
         int[] all = {0, 1, 2};
         for (int what = 0; what < 2; what++) {
             int w = what;
-            E.changesNothing("buy: no HEIR", Scene.FAMILY, Edges.NO_HEIR, (x, v) -> x.buy(v, 1, w), Edges.BAD);
-            E.changesNothing("buy: no other one", Scene.FAMILY, Edges.NO_HEIR, (x, v) -> x.buy(1, v, w), Edges.BAD);
-            E.changesNothing("buy: one and the same", Scene.FAMILY, all, (x, v) -> x.buy(v, v, w), Edges.BAD);
-            E.changesNothing("buy: nobody", Scene.NEW, x -> x.buy(0, 1, w), Edges.BAD);
-            E.changesNothing("pawn: no HEIR", Scene.FAMILY, Edges.NO_HEIR, (x, v) -> x.pawn(v, 1, w), Edges.BAD);
-            E.changesNothing("pawn: no other one", Scene.FAMILY, Edges.NO_HEIR, (x, v) -> x.pawn(1, v, w), Edges.BAD);
-            E.changesNothing("pawn: one and the same", Scene.FAMILY, all, (x, v) -> x.pawn(v, v, w), Edges.BAD);
-            E.changesNothing("pawn: nobody", Scene.NEW, x -> x.pawn(0, 1, w), Edges.BAD);
+            E.changesNothing("buy: no HEIR", Scene.FAMILY, NO_HEIR, (x, v) -> x.buy(v, 1, w), BAD);
+            E.changesNothing("buy: no other one", Scene.FAMILY, NO_HEIR, (x, v) -> x.buy(1, v, w), BAD);
+            E.changesNothing("buy: one and the same", Scene.FAMILY, all, (x, v) -> x.buy(v, v, w), BAD);
+            E.changesNothing("buy: nobody", Scene.NEW, x -> x.buy(0, 1, w), BAD);
+            E.changesNothing("pawn: no HEIR", Scene.FAMILY, NO_HEIR, (x, v) -> x.pawn(v, 1, w), BAD);
+            E.changesNothing("pawn: no other one", Scene.FAMILY, NO_HEIR, (x, v) -> x.pawn(1, v, w), BAD);
+            E.changesNothing("pawn: one and the same", Scene.FAMILY, all, (x, v) -> x.pawn(v, v, w), BAD);
+            E.changesNothing("pawn: nobody", Scene.NEW, x -> x.pawn(0, 1, w), BAD);
             E.changesNothing("pawn: BAD though there is none to pawn", Scene.NEW, family(own(), own()),
-                x -> x.pawn(0, 0, w), Edges.BAD);
+                x -> x.pawn(0, 0, w), BAD);
         }
-        E.changesNothing("buy: no such what", Scene.FAMILY, Edges.whats(0, 1), (x, v) -> x.buy(0, 1, v), Edges.BAD);
-        E.changesNothing("pawn: no such what", Scene.FAMILY, Edges.whats(0, 1), (x, v) -> x.pawn(0, 1, v), Edges.BAD);
+        E.changesNothing("buy: no such what", Scene.FAMILY, whats(0, 1), (x, v) -> x.buy(0, 1, v), BAD);
+        E.changesNothing("pawn: no such what", Scene.FAMILY, whats(0, 1), (x, v) -> x.pawn(0, 1, v), BAD);
     }
 
-    private static void buyTwo(String sentence, Edges.Setting setting, int number, int many) {
+    private static void buyTwo(String sentence, Setting setting, int number, int many) {
         both("BUY: " + sentence, setting, (x, what) -> x.buy(0, 1, what), number, many);
     }
 
@@ -156,7 +136,7 @@ public final class EdgesBestTest {
         E.changesNothing("BUY: SUMS 1 .. 49 not by 5, 6", Scene.FAMILY, x -> x.buy(2, 1, 1), 10);
     }
 
-    private static void pawnTwo(String sentence, Edges.Setting setting, int number, int many) {
+    private static void pawnTwo(String sentence, Setting setting, int number, int many) {
         both("PAWN: " + sentence, setting, (x, what) -> x.pawn(0, 1, what), number, many);
     }
 

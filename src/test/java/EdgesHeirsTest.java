@@ -1,7 +1,7 @@
 import java.util.List;
 
 /** The edges of promises 1 to 5: a new object, set, heir, give, told. */
-public final class EdgesHeirsTest {
+public final class EdgesHeirsTest extends Edges {
     private static final Edges E = new Edges();
     private static final int ALL = (1 << 30) - 1;
     private static final int[] OUTSIDE_DAY = {-1, 100, Integer.MIN_VALUE, Integer.MAX_VALUE};
@@ -31,17 +31,17 @@ public final class EdgesHeirsTest {
         E.answered("1: no HEIRS", Scene.NEW, x -> x.count(0), 0);
         for (int what = 1; what < 6; what++) {
             int w = what;
-            E.answered("1: no HEIR 0", Scene.NEW, x -> x.told(0, w), Edges.BAD);
+            E.answered("1: no HEIR 0", Scene.NEW, x -> x.told(0, w), BAD);
         }
         E.answered("1: THE DAY is 0 at first", Scene.NEW, x -> x.told(0, 0), 0);
         E.answered("1: OWN of nobody", Scene.NEW, x -> x.count(4), 0);
         E.answered("1: THE TAPE is empty", Scene.NEW, x -> x.count(2), 0);
         E.answered("1: THE TAPE is empty: the first byte", Scene.NEW, x -> x.feed(0), 1);
-        E.answered("1: no IMAGE", Scene.NEW, x -> x.back(), Edges.STATE);
+        E.answered("1: no IMAGE", Scene.NEW, x -> x.back(), STATE);
         for (int sheet = 0; sheet < 4; sheet++) {
             int s = sheet;
-            E.answered("1: all SHEETS are missing", Scene.NEW, x -> x.cell(s, 0, 0), Edges.NOTHING);
-            E.answered("1: all SHEETS are missing", Scene.NEW, x -> x.heirs(s, 0, 0, 0), Edges.NOTHING);
+            E.answered("1: all SHEETS are missing", Scene.NEW, x -> x.cell(s, 0, 0), NOTHING);
+            E.answered("1: all SHEETS are missing", Scene.NEW, x -> x.heirs(s, 0, 0, 0), NOTHING);
         }
     }
 
@@ -75,14 +75,14 @@ public final class EdgesHeirsTest {
                 return x.told(0, 0);
             }, day);
         }
-        E.changesNothing("set: THE DAY 0 .. 99", Scene.FAMILY, OUTSIDE_DAY, (x, v) -> x.set(0, 0, v), Edges.BAD);
-        E.changesNothing("set: THE DAY 0 .. 99", Scene.NEW, OUTSIDE_DAY, (x, v) -> x.set(0, 0, v), Edges.BAD);
-        for (int of : Edges.NO_HEIR) {
+        E.changesNothing("set: THE DAY 0 .. 99", Scene.FAMILY, OUTSIDE_DAY, (x, v) -> x.set(0, 0, v), BAD);
+        E.changesNothing("set: THE DAY 0 .. 99", Scene.NEW, OUTSIDE_DAY, (x, v) -> x.set(0, 0, v), BAD);
+        for (int of : NO_HEIR) {
             E.answered("set: of does not matter", Scene.FAMILY, x -> x.set(0, of, 7), 40);
             E.answered("set: of does not matter", Scene.FAMILY, x -> x.set(0, of, 7) + x.told(0, 0), 47);
         }
         E.answered("set: THE DAY of no HEIRS", Scene.NEW, x -> x.set(0, 0, 99), 0);
-        E.changesNothing("set: what 0 .. 2", Scene.FAMILY, Edges.whats(0, 2), (x, v) -> x.set(v, 0, 1), Edges.BAD);
+        E.changesNothing("set: what 0 .. 2", Scene.FAMILY, whats(0, 2), (x, v) -> x.set(v, 0, 1), BAD);
     }
 
     private static void setMore() {
@@ -93,12 +93,12 @@ public final class EdgesHeirsTest {
                 return 100 * x.told(0, 1) + 10 * x.told(1, 1) + x.told(2, 1);
             }, 400 + more);
         }
-        E.changesNothing("set: MORE 0 .. 9", Scene.FAMILY, Edges.NO_MORE, (x, v) -> x.set(1, 2, v), Edges.BAD);
-        E.changesNothing("set: MORE of no HEIR", Scene.FAMILY, Edges.NO_HEIR, (x, v) -> x.set(1, v, 1), Edges.BAD);
-        E.changesNothing("set: MORE of no HEIR", Scene.NEW, x -> x.set(1, 0, 1), Edges.BAD);
+        E.changesNothing("set: MORE 0 .. 9", Scene.FAMILY, NO_MORE, (x, v) -> x.set(1, 2, v), BAD);
+        E.changesNothing("set: MORE of no HEIR", Scene.FAMILY, NO_HEIR, (x, v) -> x.set(1, v, 1), BAD);
+        E.changesNothing("set: MORE of no HEIR", Scene.NEW, x -> x.set(1, 0, 1), BAD);
         E.answered("set: MORE of the first", Scene.FULL, x -> x.set(1, 0, 9), 1);
         E.answered("set: MORE of the sixth", Scene.FULL, x -> x.set(1, 5, 9), 6);
-        E.changesNothing("set: MORE of a seventh", Scene.FULL, x -> x.set(1, 6, 9), Edges.BAD);
+        E.changesNothing("set: MORE of a seventh", Scene.FULL, x -> x.set(1, 6, 9), BAD);
     }
 
     private static void setOwn() {
@@ -113,11 +113,11 @@ public final class EdgesHeirsTest {
                 return (long) x.told(0, 2) << 30 | x.told(2, 2);
             }, (long) Check.bits(3, 5, 30) << 30 | Check.bits(12));
         }
-        E.changesNothing("set: OWN bits 0 .. 29", Scene.FAMILY, OUTSIDE_OWN, (x, v) -> x.set(2, 1, v), Edges.BAD);
-        E.changesNothing("set: OWN of no HEIR", Scene.FAMILY, Edges.NO_HEIR, (x, v) -> x.set(2, v, 1), Edges.BAD);
-        E.changesNothing("set: OWN of no HEIR", Scene.NEW, x -> x.set(2, 0, 1), Edges.BAD);
+        E.changesNothing("set: OWN bits 0 .. 29", Scene.FAMILY, OUTSIDE_OWN, (x, v) -> x.set(2, 1, v), BAD);
+        E.changesNothing("set: OWN of no HEIR", Scene.FAMILY, NO_HEIR, (x, v) -> x.set(2, v, 1), BAD);
+        E.changesNothing("set: OWN of no HEIR", Scene.NEW, x -> x.set(2, 0, 1), BAD);
         E.answered("set: OWN of the sixth", Scene.FULL, x -> x.set(2, 5, ALL), Check.bits(6, 12));
-        E.changesNothing("set: OWN of a seventh", Scene.FULL, x -> x.set(2, 6, 1), Edges.BAD);
+        E.changesNothing("set: OWN of a seventh", Scene.FULL, x -> x.set(2, 6, 1), BAD);
     }
 
     // ---- 3: heir
@@ -127,12 +127,12 @@ public final class EdgesHeirsTest {
             E.answered("heir: KINDS 0 .. 5", Scene.FAMILY, x -> x.heir(kind, 1), 3);
             E.answered("heir: KINDS 0 .. 5", Scene.FAMILY, x -> x.heir(kind, 1) + 10 * x.told(3, 3), 3 + 10 * kind);
         }
-        E.changesNothing("heir: KINDS 0 .. 5", Scene.FAMILY, Edges.NO_KIND, (x, v) -> x.heir(v, 1), Edges.BAD);
+        E.changesNothing("heir: KINDS 0 .. 5", Scene.FAMILY, NO_KIND, (x, v) -> x.heir(v, 1), BAD);
         for (int more : new int[] {0, 9}) {
             E.answered("heir: MORE 0 .. 9", Scene.FAMILY, x -> x.heir(1, more), 3);
             E.answered("heir: MORE 0 .. 9", Scene.FAMILY, x -> x.heir(1, more) + 10 * x.told(3, 1), 3 + 10 * more);
         }
-        E.changesNothing("heir: MORE 0 .. 9", Scene.FAMILY, Edges.NO_MORE, (x, v) -> x.heir(1, v), Edges.BAD);
+        E.changesNothing("heir: MORE 0 .. 9", Scene.FAMILY, NO_MORE, (x, v) -> x.heir(1, v), BAD);
         E.answered("heir: numbered from 0", Scene.NEW, x -> x.heir(0, 0), 0);
         E.answered("heir: how many then", Scene.FAMILY, x -> x.heir(0, 0) + 10 * x.count(0), 43);
     }
@@ -143,9 +143,9 @@ public final class EdgesHeirsTest {
             x.heir(0, 0);
             return x.heir(5, 9);
         }, 5);
-        E.changesNothing("heir: 6 at most: a seventh", Scene.FULL, x -> x.heir(0, 0), Edges.FULL);
-        E.changesNothing("heir: BAD ahead of FULL", Scene.FULL, Edges.NO_KIND, (x, v) -> x.heir(v, 0), Edges.BAD);
-        E.changesNothing("heir: BAD ahead of FULL", Scene.FULL, Edges.NO_MORE, (x, v) -> x.heir(0, v), Edges.BAD);
+        E.changesNothing("heir: 6 at most: a seventh", Scene.FULL, x -> x.heir(0, 0), FULL);
+        E.changesNothing("heir: BAD ahead of FULL", Scene.FULL, NO_KIND, (x, v) -> x.heir(v, 0), BAD);
+        E.changesNothing("heir: BAD ahead of FULL", Scene.FULL, NO_MORE, (x, v) -> x.heir(0, v), BAD);
         E.answered("heir: room again, four of six have gone", Scene.FULL, x -> {
             x.back();
             return x.heir(0, 0);
@@ -172,22 +172,22 @@ public final class EdgesHeirsTest {
     // ---- 4: give; HEIR 0 has 3, 5, 30, HEIR 1 has 5, 6, 8, 10, HEIR 2 has 12
 
     private static void giveBad() {
-        E.changesNothing("give: no NUMBER", Scene.FAMILY, Edges.NO_NUMBER, (x, v) -> x.give(0, 1, v), Edges.BAD);
-        E.changesNothing("give: by no HEIR", Scene.FAMILY, Edges.NO_HEIR, (x, v) -> x.give(v, 1, 3), Edges.BAD);
-        E.changesNothing("give: to no HEIR", Scene.FAMILY, Edges.NO_HEIR, (x, v) -> x.give(0, v, 3), Edges.BAD);
-        E.changesNothing("give: one and the same", Scene.FAMILY, x -> x.give(0, 0, 3), Edges.BAD);
-        E.changesNothing("give: one and the same", Scene.FAMILY, x -> x.give(2, 2, 12), Edges.BAD);
-        E.changesNothing("give: BAD ahead of STATE", Scene.FAMILY, x -> x.give(0, 0, 7), Edges.BAD);
-        E.changesNothing("give: nobody there", Scene.NEW, x -> x.give(0, 1, 1), Edges.BAD);
+        E.changesNothing("give: no NUMBER", Scene.FAMILY, NO_NUMBER, (x, v) -> x.give(0, 1, v), BAD);
+        E.changesNothing("give: by no HEIR", Scene.FAMILY, NO_HEIR, (x, v) -> x.give(v, 1, 3), BAD);
+        E.changesNothing("give: to no HEIR", Scene.FAMILY, NO_HEIR, (x, v) -> x.give(0, v, 3), BAD);
+        E.changesNothing("give: one and the same", Scene.FAMILY, x -> x.give(0, 0, 3), BAD);
+        E.changesNothing("give: one and the same", Scene.FAMILY, x -> x.give(2, 2, 12), BAD);
+        E.changesNothing("give: BAD ahead of STATE", Scene.FAMILY, x -> x.give(0, 0, 7), BAD);
+        E.changesNothing("give: nobody there", Scene.NEW, x -> x.give(0, 1, 1), BAD);
     }
 
     private static void giveState() {
-        E.changesNothing("give: it isn't the one's OWN", Scene.FAMILY, x -> x.give(0, 1, 7), Edges.STATE);
-        E.changesNothing("give: can be said, isn't OWN", Scene.FAMILY, x -> x.give(0, 2, 8), Edges.STATE);
-        E.changesNothing("give: the other one's already", Scene.FAMILY, x -> x.give(0, 1, 5), Edges.STATE);
-        E.changesNothing("give: the other one's alone", Scene.FAMILY, x -> x.give(0, 1, 6), Edges.STATE);
-        E.changesNothing("give: not OWN, NUMBER 1", Scene.FAMILY, x -> x.give(0, 1, 1), Edges.STATE);
-        E.changesNothing("give: not OWN, NUMBER 30", Scene.FAMILY, x -> x.give(1, 0, 30), Edges.STATE);
+        E.changesNothing("give: it isn't the one's OWN", Scene.FAMILY, x -> x.give(0, 1, 7), STATE);
+        E.changesNothing("give: can be said, isn't OWN", Scene.FAMILY, x -> x.give(0, 2, 8), STATE);
+        E.changesNothing("give: the other one's already", Scene.FAMILY, x -> x.give(0, 1, 5), STATE);
+        E.changesNothing("give: the other one's alone", Scene.FAMILY, x -> x.give(0, 1, 6), STATE);
+        E.changesNothing("give: not OWN, NUMBER 1", Scene.FAMILY, x -> x.give(0, 1, 1), STATE);
+        E.changesNothing("give: not OWN, NUMBER 30", Scene.FAMILY, x -> x.give(1, 0, 30), STATE);
     }
 
     private static void giveTruly() {
@@ -224,13 +224,13 @@ public final class EdgesHeirsTest {
             E.changesNothing("told: what 0 .. 5 of the first", Scene.FAMILY, x -> x.told(0, w), first[w]);
             E.changesNothing("told: what 0 .. 5 of the last", Scene.FAMILY, x -> x.told(2, w), last[w]);
             if (what > 0) {
-                E.changesNothing("told: no HEIR", Scene.FAMILY, Edges.NO_HEIR, (x, v) -> x.told(v, w), Edges.BAD);
+                E.changesNothing("told: no HEIR", Scene.FAMILY, NO_HEIR, (x, v) -> x.told(v, w), BAD);
             }
         }
-        E.changesNothing("told: no such what", Scene.FAMILY, Edges.whats(0, 5), (x, v) -> x.told(0, v), Edges.BAD);
-        E.changesNothing("told: of does not matter", Scene.FAMILY, Edges.NO_HEIR, (x, v) -> x.told(v, 0), 40);
+        E.changesNothing("told: no such what", Scene.FAMILY, whats(0, 5), (x, v) -> x.told(0, v), BAD);
+        E.changesNothing("told: of does not matter", Scene.FAMILY, NO_HEIR, (x, v) -> x.told(v, 0), 40);
         E.changesNothing("told: the sixth's KIND", Scene.FULL, x -> x.told(5, 3), 5);
-        E.changesNothing("told: no seventh", Scene.FULL, x -> x.told(6, 3), Edges.BAD);
+        E.changesNothing("told: no seventh", Scene.FULL, x -> x.told(6, 3), BAD);
     }
 
     private static void toldEmptyAndFull() {

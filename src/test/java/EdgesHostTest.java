@@ -1,5 +1,5 @@
 /** The edges of promises 25 to 29: sheet, cell, copy, heirs, taken. */
-public final class EdgesHostTest {
+public final class EdgesHostTest extends Edges {
     private static final Edges E = new Edges();
     private static final int[] NO_SORT = {-2, 3, Integer.MIN_VALUE, Integer.MAX_VALUE};
     private static final int[] NO_PLACE = {-1, 6, 7, Integer.MIN_VALUE, Integer.MAX_VALUE};
@@ -24,12 +24,6 @@ public final class EdgesHostTest {
         E.close();
     }
 
-    private static long ask(Scene scene, Edges.Setting setting, Edges.Call call) {
-        Counted x = scene.make();
-        setting.of(x);
-        return call.on(x);
-    }
-
     /** An item 0 .. 9 of a SHEET that is there, as MORE of an HEIR who comes of it; else -1. */
     private static long item(Counted x, int sheet, int sort, int i) {
         int scratch = sheet == 3 ? 2 : 3;
@@ -49,20 +43,20 @@ public final class EdgesHostTest {
     private static void sheetBad() {
         for (int sort = -1; sort < 3; sort++) {
             int s = sort;
-            E.changesNothing("sheet: no SHEET", Scene.FAMILY, Edges.NO_SHEET, (x, v) -> x.sheet(v, s, 1), Edges.BAD);
-            E.changesNothing("sheet: no SHEET, ahead of -14", Scene.FAMILY, Edges.NO_SHEET, (x, v) -> x.sheet(v, s, -1),
-                Edges.BAD);
+            E.changesNothing("sheet: no SHEET", Scene.FAMILY, NO_SHEET, (x, v) -> x.sheet(v, s, 1), BAD);
+            E.changesNothing("sheet: no SHEET, ahead of -14", Scene.FAMILY, NO_SHEET, (x, v) -> x.sheet(v, s, -1),
+                BAD);
         }
         for (int sheet = 0; sheet < 4; sheet++) {
             int h = sheet;
-            E.changesNothing("sheet: no sort", Scene.FAMILY, NO_SORT, (x, v) -> x.sheet(h, v, 1), Edges.BAD);
-            E.changesNothing("sheet: no sort, ahead of -14", Scene.FAMILY, NO_SORT, (x, v) -> x.sheet(h, v, -1), Edges.BAD);
+            E.changesNothing("sheet: no sort", Scene.FAMILY, NO_SORT, (x, v) -> x.sheet(h, v, 1), BAD);
+            E.changesNothing("sheet: no sort, ahead of -14", Scene.FAMILY, NO_SORT, (x, v) -> x.sheet(h, v, -1), BAD);
             for (int sort = 0; sort < 3; sort++) {
                 int s = sort;
                 int[] above = {41, 42, Integer.MAX_VALUE};
-                E.changesNothing("sheet: n above 40", Scene.FAMILY, above, (x, v) -> x.sheet(h, s, v), Edges.BAD);
+                E.changesNothing("sheet: n above 40", Scene.FAMILY, above, (x, v) -> x.sheet(h, s, v), BAD);
                 int[] below = {-1, -2, Integer.MIN_VALUE};
-                E.changesNothing("sheet: n below 0", Scene.FAMILY, below, (x, v) -> x.sheet(h, s, v), Edges.BELOW_ZERO);
+                E.changesNothing("sheet: n below 0", Scene.FAMILY, below, (x, v) -> x.sheet(h, s, v), BELOW_ZERO);
             }
         }
     }
@@ -73,15 +67,15 @@ public final class EdgesHostTest {
                 for (int n : new int[] {0, 1, 39, 40}) {
                     int h = sheet;
                     int s = sort;
-                    Edges.Setting laid = x -> x.sheet(h, s, n);
+                    Setting laid = x -> x.sheet(h, s, n);
                     E.answered("sheet: n 0 .. 40", Scene.FAMILY, x -> x.sheet(h, s, n), 1);
                     E.due("sheet: the last of " + n, ask(Scene.FAMILY, laid, x -> x.cell(h, n - 1, 1)),
-                        n == 0 ? Edges.OUTSIDE : 1);
-                    E.due("sheet: behind the last of " + n, ask(Scene.FAMILY, laid, x -> x.cell(h, n, 1)), Edges.OUTSIDE);
+                        n == 0 ? OUTSIDE : 1);
+                    E.due("sheet: behind the last of " + n, ask(Scene.FAMILY, laid, x -> x.cell(h, n, 1)), OUTSIDE);
                     for (int of = 0; of < 3; of++) {
                         int o = of;
                         E.due("sheet: of its sort", ask(Scene.FAMILY, laid, x -> x.heirs(h, o, 0, 0)),
-                            of == sort ? 0 : Edges.UNLIKE);
+                            of == sort ? 0 : UNLIKE);
                     }
                 }
             }
@@ -93,7 +87,7 @@ public final class EdgesHostTest {
             for (int n : new int[] {0, 1, 40, 41, -1, Integer.MIN_VALUE, Integer.MAX_VALUE}) {
                 int h = sheet;
                 E.answered("sheet: missing: n does not matter", Scene.FAMILY, x -> x.sheet(h, -1, n), 1);
-                E.due("sheet: missing then", ask(Scene.FAMILY, x -> x.sheet(h, -1, n), x -> x.cell(h, 0, 1)), Edges.NOTHING);
+                E.due("sheet: missing then", ask(Scene.FAMILY, x -> x.sheet(h, -1, n), x -> x.cell(h, 0, 1)), NOTHING);
             }
         }
         E.due("sheet: there again, and 0", ask(Scene.FAMILY, x -> {
@@ -129,17 +123,17 @@ public final class EdgesHostTest {
     // ---- 26: cell
 
     private static void cellBad() {
-        E.changesNothing("cell: no SHEET", Scene.FAMILY, Edges.NO_SHEET, (x, v) -> x.cell(v, 0, 1), Edges.BAD);
-        E.changesNothing("cell: no SHEET, outside", Scene.FAMILY, Edges.NO_SHEET, (x, v) -> x.cell(v, -1, 1), Edges.BAD);
-        E.changesNothing("cell: missing", Scene.FAMILY, x -> x.cell(3, 0, 1), Edges.NOTHING);
-        E.changesNothing("cell: missing, ahead of outside", Scene.FAMILY, NO_PLACE, (x, v) -> x.cell(3, v, 1), Edges.NOTHING);
+        E.changesNothing("cell: no SHEET", Scene.FAMILY, NO_SHEET, (x, v) -> x.cell(v, 0, 1), BAD);
+        E.changesNothing("cell: no SHEET, outside", Scene.FAMILY, NO_SHEET, (x, v) -> x.cell(v, -1, 1), BAD);
+        E.changesNothing("cell: missing", Scene.FAMILY, x -> x.cell(3, 0, 1), NOTHING);
+        E.changesNothing("cell: missing, ahead of outside", Scene.FAMILY, NO_PLACE, (x, v) -> x.cell(3, v, 1), NOTHING);
         for (int sheet = 0; sheet < 3; sheet++) {
             int h = sheet;
-            E.changesNothing("cell: outside of 6", Scene.FAMILY, NO_PLACE, (x, v) -> x.cell(h, v, 1), Edges.OUTSIDE);
+            E.changesNothing("cell: outside of 6", Scene.FAMILY, NO_PLACE, (x, v) -> x.cell(h, v, 1), OUTSIDE);
             int[] no = {-1, 40, 41, Integer.MIN_VALUE, Integer.MAX_VALUE};
-            E.changesNothing("cell: outside of 40", Scene.FULL, no, (x, v) -> x.cell(h, v, 1), Edges.OUTSIDE);
+            E.changesNothing("cell: outside of 40", Scene.FULL, no, (x, v) -> x.cell(h, v, 1), OUTSIDE);
             E.changesNothing("cell: outside of none", Scene.FAMILY, x -> x.sheet(h, h, 0), x -> x.cell(h, 0, 1),
-                Edges.OUTSIDE);
+                OUTSIDE);
         }
     }
 
@@ -196,20 +190,20 @@ public final class EdgesHostTest {
 
     private static void copyBad() {
         for (int n : new int[] {1, 0, -1, 41}) {
-            E.changesNothing("copy: no SHEET", Scene.FAMILY, Edges.NO_SHEET, (x, v) -> x.copy(v, 0, 1, 0, n), Edges.BAD);
-            E.changesNothing("copy: no other one", Scene.FAMILY, Edges.NO_SHEET, (x, v) -> x.copy(1, 0, v, 0, n), Edges.BAD);
-            E.changesNothing("copy: no SHEET, the other one missing", Scene.FAMILY, Edges.NO_SHEET,
-                (x, v) -> x.copy(v, 0, 3, 0, n), Edges.BAD);
-            E.changesNothing("copy: missing, no other one", Scene.FAMILY, Edges.NO_SHEET, (x, v) -> x.copy(3, 0, v, 0, n),
-                Edges.BAD);
+            E.changesNothing("copy: no SHEET", Scene.FAMILY, NO_SHEET, (x, v) -> x.copy(v, 0, 1, 0, n), BAD);
+            E.changesNothing("copy: no other one", Scene.FAMILY, NO_SHEET, (x, v) -> x.copy(1, 0, v, 0, n), BAD);
+            E.changesNothing("copy: no SHEET, the other one missing", Scene.FAMILY, NO_SHEET,
+                (x, v) -> x.copy(v, 0, 3, 0, n), BAD);
+            E.changesNothing("copy: missing, no other one", Scene.FAMILY, NO_SHEET, (x, v) -> x.copy(3, 0, v, 0, n),
+                BAD);
             for (int sheet = 0; sheet < 4; sheet++) {
                 int h = sheet;
-                E.changesNothing("copy: the other one missing", Scene.FAMILY, x -> x.copy(h, 0, 3, 0, n), Edges.NOTHING);
-                E.changesNothing("copy: missing", Scene.FAMILY, x -> x.copy(3, 0, h, 0, n), Edges.NOTHING);
+                E.changesNothing("copy: the other one missing", Scene.FAMILY, x -> x.copy(h, 0, 3, 0, n), NOTHING);
+                E.changesNothing("copy: missing", Scene.FAMILY, x -> x.copy(3, 0, h, 0, n), NOTHING);
                 for (int other = 0; other < 3; other++) {
                     int o = other;
                     if (sheet < 3 && other != sheet) {
-                        E.changesNothing("copy: of unlike sorts", Scene.FAMILY, x -> x.copy(h, 0, o, 0, n), Edges.UNLIKE);
+                        E.changesNothing("copy: of unlike sorts", Scene.FAMILY, x -> x.copy(h, 0, o, 0, n), UNLIKE);
                     }
                 }
             }
@@ -217,7 +211,7 @@ public final class EdgesHostTest {
     }
 
     /** A SHEET 3 of 4 shorts beside SHEET 1 of 6. */
-    private static final Edges.Setting FOUR = x -> Check.sheet(x, 3, 1, 6, 7, 8, 9);
+    private static final Setting FOUR = x -> Check.sheet(x, 3, 1, 6, 7, 8, 9);
 
     private static void copyPlaces() {
         // i, j, n: from 6 items to 4.
@@ -234,11 +228,11 @@ public final class EdgesHostTest {
         }
         for (int[] c : outside) {
             E.changesNothing("copy: outside: " + c[0] + ", " + c[1] + ", " + c[2], Scene.FAMILY, FOUR,
-                x -> x.copy(1, c[0], 3, c[1], c[2]), Edges.OUTSIDE);
+                x -> x.copy(1, c[0], 3, c[1], c[2]), OUTSIDE);
         }
         E.due("copy: all of 40", ask(Scene.FULL, x -> x.sheet(3, 2, 40), x -> x.copy(2, 0, 3, 0, 40)), 40);
-        E.changesNothing("copy: 41", Scene.FULL, x -> x.sheet(3, 2, 40), x -> x.copy(2, 0, 3, 0, 41), Edges.OUTSIDE);
-        E.changesNothing("copy: 40 from 1 on", Scene.FULL, x -> x.sheet(3, 2, 40), x -> x.copy(2, 1, 3, 0, 40), Edges.OUTSIDE);
+        E.changesNothing("copy: 41", Scene.FULL, x -> x.sheet(3, 2, 40), x -> x.copy(2, 0, 3, 0, 41), OUTSIDE);
+        E.changesNothing("copy: 40 from 1 on", Scene.FULL, x -> x.sheet(3, 2, 40), x -> x.copy(2, 1, 3, 0, 40), OUTSIDE);
         E.changesNothing("copy: none between two of none", Scene.FAMILY, x -> {
             x.sheet(1, 1, 0);
             x.sheet(3, 1, 0);
@@ -257,7 +251,7 @@ public final class EdgesHostTest {
             }
         }
         E.answered("copy: within one: how many", Scene.FAMILY, x -> x.copy(1, 0, 1, 1, 5), 5);
-        E.changesNothing("copy: within one: outside", Scene.FAMILY, x -> x.copy(1, 0, 1, 1, 6), Edges.OUTSIDE);
+        E.changesNothing("copy: within one: outside", Scene.FAMILY, x -> x.copy(1, 0, 1, 1, 6), OUTSIDE);
     }
 
     private static void copyItems() {
@@ -266,7 +260,7 @@ public final class EdgesHostTest {
         for (int[] m : made) {
             for (int i = 0; i < 6; i++) {
                 int at = i;
-                Edges.Setting copied = x -> {
+                Setting copied = x -> {
                     FOUR.of(x);
                     x.copy(1, m[0], 3, m[1], m[2]);
                 };
@@ -292,49 +286,49 @@ public final class EdgesHostTest {
 
     private static void heirsBad() {
         for (int n : new int[] {0, 1, 6}) {
-            E.changesNothing("heirs: no SHEET", Scene.FAMILY, Edges.NO_SHEET, (x, v) -> x.heirs(v, 1, 0, n), Edges.BAD);
+            E.changesNothing("heirs: no SHEET", Scene.FAMILY, NO_SHEET, (x, v) -> x.heirs(v, 1, 0, n), BAD);
             for (int sheet = 0; sheet < 4; sheet++) {
                 int h = sheet;
                 int[] no = {-1, 3, Integer.MIN_VALUE, Integer.MAX_VALUE};
-                E.changesNothing("heirs: no sort", Scene.FAMILY, no, (x, v) -> x.heirs(h, v, 0, n), Edges.BAD);
+                E.changesNothing("heirs: no sort", Scene.FAMILY, no, (x, v) -> x.heirs(h, v, 0, n), BAD);
                 for (int sort = 0; sort < 3; sort++) {
                     int s = sort;
                     if (sheet < 3 && sort != sheet) {
-                        E.changesNothing("heirs: of another sort", Scene.FAMILY, x -> x.heirs(h, s, 0, n), Edges.UNLIKE);
+                        E.changesNothing("heirs: of another sort", Scene.FAMILY, x -> x.heirs(h, s, 0, n), UNLIKE);
                         E.changesNothing("heirs: of another sort, ahead of -12", Scene.FAMILY, x -> x.heirs(h, s, 9, n),
-                            Edges.UNLIKE);
+                            UNLIKE);
                     }
                 }
             }
             for (int sort = 0; sort < 3; sort++) {
                 int s = sort;
-                E.changesNothing("heirs: missing", Scene.FAMILY, x -> x.heirs(3, s, 0, n), Edges.NOTHING);
-                E.changesNothing("heirs: missing, ahead of -12", Scene.FAMILY, x -> x.heirs(3, s, -1, n), Edges.NOTHING);
+                E.changesNothing("heirs: missing", Scene.FAMILY, x -> x.heirs(3, s, 0, n), NOTHING);
+                E.changesNothing("heirs: missing, ahead of -12", Scene.FAMILY, x -> x.heirs(3, s, -1, n), NOTHING);
             }
         }
         int[] no = {-1, 7, Integer.MIN_VALUE, Integer.MAX_VALUE};
-        E.changesNothing("heirs: n 0 .. 6", Scene.FAMILY, no, (x, v) -> x.heirs(1, 1, 0, v), Edges.BAD);
-        E.changesNothing("heirs: n 0 .. 6, ahead of -13", Scene.FAMILY, no, (x, v) -> x.heirs(1, 2, 0, v), Edges.BAD);
-        E.changesNothing("heirs: n 0 .. 6, ahead of -11", Scene.FAMILY, no, (x, v) -> x.heirs(3, 2, 0, v), Edges.BAD);
+        E.changesNothing("heirs: n 0 .. 6", Scene.FAMILY, no, (x, v) -> x.heirs(1, 1, 0, v), BAD);
+        E.changesNothing("heirs: n 0 .. 6, ahead of -13", Scene.FAMILY, no, (x, v) -> x.heirs(1, 2, 0, v), BAD);
+        E.changesNothing("heirs: n 0 .. 6, ahead of -11", Scene.FAMILY, no, (x, v) -> x.heirs(3, 2, 0, v), BAD);
     }
 
     private static void heirsPlaces() {
         int[] no = {-1, -2, 5, 6, 7, Integer.MIN_VALUE, Integer.MAX_VALUE, Integer.MAX_VALUE - 1};
         for (int sheet = 0; sheet < 3; sheet++) {
             int h = sheet;
-            E.changesNothing("heirs: the first is outside", Scene.FAMILY, no, (x, v) -> x.heirs(h, h, v, 1), Edges.OUTSIDE);
+            E.changesNothing("heirs: the first is outside", Scene.FAMILY, no, (x, v) -> x.heirs(h, h, v, 1), OUTSIDE);
             E.answered("heirs: the last two items", Scene.FAMILY, x -> x.heirs(h, h, 4, 1), 1);
             E.answered("heirs: of its sort", Scene.FAMILY, x -> x.heirs(h, h, 0, 1), 1);
         }
         for (int from : new int[] {0, 4, 6, 7, -1, Integer.MAX_VALUE}) {
             E.changesNothing("heirs: none asks for no place", Scene.FAMILY, x -> x.heirs(1, 1, from, 0), 0);
         }
-        E.changesNothing("heirs: of none", Scene.FAMILY, x -> x.sheet(1, 1, 0), x -> x.heirs(1, 1, 0, 1), Edges.OUTSIDE);
+        E.changesNothing("heirs: of none", Scene.FAMILY, x -> x.sheet(1, 1, 0), x -> x.heirs(1, 1, 0, 1), OUTSIDE);
         // What stood ahead came: of 0 1, 5 9, 2 4 three, and a fourth is outside.
         E.answered("heirs: all three", Scene.FAMILY, x -> x.heirs(1, 1, 0, 3), 3);
-        E.answered("heirs: a fourth is outside", Scene.FAMILY, x -> x.heirs(1, 1, 0, 4), Edges.OUTSIDE);
+        E.answered("heirs: a fourth is outside", Scene.FAMILY, x -> x.heirs(1, 1, 0, 4), OUTSIDE);
         E.due("heirs: what stood ahead came", ask(Scene.FAMILY, x -> x.heirs(1, 1, 0, 4), x -> x.count(0)), 6);
-        E.answered("heirs: half of a third", Scene.FAMILY, x -> x.heirs(1, 1, 1, 3), Edges.OUTSIDE);
+        E.answered("heirs: half of a third", Scene.FAMILY, x -> x.heirs(1, 1, 1, 3), OUTSIDE);
         E.due("heirs: half of a third: one came", ask(Scene.FAMILY, x -> x.heirs(1, 1, 1, 3), x -> x.count(0)), 4);
         E.due("heirs: its KIND, MORE", ask(Scene.FAMILY, x -> x.heirs(1, 1, 1, 3), x -> 10 * x.told(3, 3) + x.told(3, 1)), 15);
         E.answered("heirs: up to 40", Scene.FULL, x -> {
@@ -344,11 +338,11 @@ public final class EdgesHostTest {
         E.answered("heirs: behind 40", Scene.FULL, x -> {
             x.back();
             return x.heirs(2, 2, 39, 1);
-        }, Edges.OUTSIDE);
+        }, OUTSIDE);
     }
 
     private static void heirsMany() {
-        Edges.Setting six = x -> Check.sheet(x, 0, 1, 0, 4, 1, 5, 2, 6, 3, 7, 4, 8, 5, 9);
+        Setting six = x -> Check.sheet(x, 0, 1, 0, 4, 1, 5, 2, 6, 3, 7, 4, 8, 5, 9);
         for (int n = 0; n <= 6; n++) {
             int many = n;
             E.due("heirs: n 0 .. 6", ask(Scene.NEW, six, x -> x.heirs(0, 1, 0, many)), n);
@@ -375,22 +369,22 @@ public final class EdgesHostTest {
         for (int sort = 0; sort < 3; sort++) {
             int s = sort;
             for (int[] ask : asked) {
-                Edges.Setting laid = x -> Check.sheet(x, 0, s, ask[0], ask[1]);
+                Setting laid = x -> Check.sheet(x, 0, s, ask[0], ask[1]);
                 E.due("heirs: as of heir(): " + ask[0] + ", " + ask[1],
                     ask(Scene.NEW, laid, x -> x.heirs(0, s, 0, 1)), ask[2]);
                 E.due("heirs: others are left out: " + ask[0] + ", " + ask[1],
                     ask(Scene.NEW, laid, x -> 10 * x.heirs(0, s, 0, 1) + x.count(0)), 11 * ask[2]);
             }
         }
-        Edges.Setting mixed = x -> Check.sheet(x, 0, 2, 6, 0, 1, 3, 0, 10, 2, 4, -1, -1);
+        Setting mixed = x -> Check.sheet(x, 0, 2, 6, 0, 1, 3, 0, 10, 2, 4, -1, -1);
         E.due("heirs: how many came", ask(Scene.NEW, mixed, x -> x.heirs(0, 2, 0, 5)), 2);
         E.due("heirs: the first that came", ask(Scene.NEW, mixed, x -> 100 * x.heirs(0, 2, 0, 5) + 10 * x.told(0, 3)
             + x.told(0, 1)), 213);
         E.due("heirs: the next that came", ask(Scene.NEW, mixed, x -> 100 * x.heirs(0, 2, 0, 5) + 10 * x.told(1, 3)
             + x.told(1, 1)), 224);
-        E.due("heirs: -12 behind some that were left out", ask(Scene.NEW, mixed, x -> x.heirs(0, 2, 6, 3)), Edges.OUTSIDE);
+        E.due("heirs: -12 behind some that were left out", ask(Scene.NEW, mixed, x -> x.heirs(0, 2, 6, 3)), OUTSIDE);
         E.changesNothing("heirs: no room: left out", Scene.FULL, x -> x.heirs(1, 1, 0, 6), 0);
-        E.changesNothing("heirs: no room: left out, and then outside", Scene.FULL, x -> x.heirs(1, 1, 38, 2), Edges.OUTSIDE);
+        E.changesNothing("heirs: no room: left out, and then outside", Scene.FULL, x -> x.heirs(1, 1, 38, 2), OUTSIDE);
         E.due("heirs: room for three", ask(Scene.FAMILY, x -> x.sheet(0, 0, 40), x -> x.heirs(0, 0, 0, 6)), 3);
     }
 
@@ -403,15 +397,15 @@ public final class EdgesHostTest {
                 int h = heir;
                 int k = kind;
                 E.changesNothing("taken: one of KIND " + heir + " for one of KIND " + kind, Scene.FULL, x -> x.taken(h, k),
-                    (isTaken[heir] >> kind & 1) == 1 ? heir + 1 : Edges.UNLIKE);
+                    (isTaken[heir] >> kind & 1) == 1 ? heir + 1 : UNLIKE);
             }
         }
-        E.changesNothing("taken: no KIND", Scene.FAMILY, Edges.NO_KIND, (x, v) -> x.taken(0, v), Edges.BAD);
-        E.changesNothing("taken: no KIND, ahead of -11", Scene.NEW, Edges.NO_KIND, (x, v) -> x.taken(0, v), Edges.BAD);
-        E.changesNothing("taken: no HEIR", Scene.FAMILY, Edges.NO_HEIR, (x, v) -> x.taken(v, 0), Edges.NOTHING);
-        E.changesNothing("taken: no HEIR, ahead of -13", Scene.FAMILY, Edges.NO_HEIR, (x, v) -> x.taken(v, 5), Edges.NOTHING);
-        E.changesNothing("taken: nobody", Scene.NEW, x -> x.taken(0, 0), Edges.NOTHING);
-        E.changesNothing("taken: no seventh", Scene.FULL, x -> x.taken(6, 0), Edges.NOTHING);
+        E.changesNothing("taken: no KIND", Scene.FAMILY, NO_KIND, (x, v) -> x.taken(0, v), BAD);
+        E.changesNothing("taken: no KIND, ahead of -11", Scene.NEW, NO_KIND, (x, v) -> x.taken(0, v), BAD);
+        E.changesNothing("taken: no HEIR", Scene.FAMILY, NO_HEIR, (x, v) -> x.taken(v, 0), NOTHING);
+        E.changesNothing("taken: no HEIR, ahead of -13", Scene.FAMILY, NO_HEIR, (x, v) -> x.taken(v, 5), NOTHING);
+        E.changesNothing("taken: nobody", Scene.NEW, x -> x.taken(0, 0), NOTHING);
+        E.changesNothing("taken: no seventh", Scene.FULL, x -> x.taken(6, 0), NOTHING);
         for (int more : new int[] {0, 9}) {
             E.changesNothing("taken: its MORE", Scene.NEW, x -> x.heir(3, more), x -> x.taken(0, 1), more);
         }
@@ -422,6 +416,6 @@ public final class EdgesHostTest {
         E.answered("taken: one who went", Scene.FULL, x -> {
             x.back();
             return x.taken(2, 0);
-        }, Edges.NOTHING);
+        }, NOTHING);
     }
 }

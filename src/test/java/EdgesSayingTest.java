@@ -2,7 +2,7 @@ import java.util.ArrayList;
 import java.util.List;
 
 /** The edges of promises 9 to 14: says, common, pays, barred, silent, middle. */
-public final class EdgesSayingTest {
+public final class EdgesSayingTest extends Edges {
     private static final Edges E = new Edges();
     private static final int NONE = NumbersInherited.NONE;
     private static final int ALL = (1 << 30) - 1;
@@ -31,28 +31,8 @@ public final class EdgesSayingTest {
         E.close();
     }
 
-    /** HEIRS without KIND or MORE, each with its OWN. */
-    private static Edges.Setting family(int[]... owns) {
-        return x -> {
-            for (int[] own : owns) {
-                Check.heir(x, 0, 0, own);
-            }
-        };
-    }
-
-    private static void asked(String sentence, Edges.Setting setting, Edges.Call call, long want) {
+    private static void asked(String sentence, Setting setting, Call call, long want) {
         E.changesNothing(sentence, Scene.NEW, setting, call, want);
-    }
-
-    private static Edges.Setting rule(Edges.Setting family, String text) {
-        return x -> {
-            family.of(x);
-            x.force(Check.text(x, text));
-        };
-    }
-
-    private static int[] own(int... numbers) {
-        return numbers;
     }
 
     // ---- 9: says
@@ -60,13 +40,13 @@ public final class EdgesSayingTest {
     private static void saysBad() {
         for (int what = 0; what < 4; what++) {
             int w = what;
-            E.changesNothing("says: no HEIR", Scene.FAMILY, Edges.NO_HEIR, (x, v) -> x.says(v, 1, w), Edges.BAD);
-            E.changesNothing("says: nobody", Scene.NEW, x -> x.says(0, 1, w), Edges.BAD);
-            E.changesNothing("says: no NUMBER, no SUM", Scene.FAMILY, what < 2 ? Edges.NO_NUMBER : Edges.NO_SUM,
-                (x, v) -> x.says(0, v, w), Edges.BAD);
+            E.changesNothing("says: no HEIR", Scene.FAMILY, NO_HEIR, (x, v) -> x.says(v, 1, w), BAD);
+            E.changesNothing("says: nobody", Scene.NEW, x -> x.says(0, 1, w), BAD);
+            E.changesNothing("says: no NUMBER, no SUM", Scene.FAMILY, what < 2 ? NO_NUMBER : NO_SUM,
+                (x, v) -> x.says(0, v, w), BAD);
         }
-        E.changesNothing("says: no such what", Scene.FAMILY, Edges.whats(0, 3), (x, v) -> x.says(0, 1, v), Edges.BAD);
-        E.changesNothing("says: no seventh HEIR", Scene.FULL, x -> x.says(6, 1, 0), Edges.BAD);
+        E.changesNothing("says: no such what", Scene.FAMILY, whats(0, 3), (x, v) -> x.says(0, 1, v), BAD);
+        E.changesNothing("says: no seventh HEIR", Scene.FULL, x -> x.says(6, 1, 0), BAD);
     }
 
     // ADDING HEIR 0 has 3, 5, 30, MORE 4; TWIN HEIR 2 has 12, MORE 7; says 2 ; meant n<50 ; worth 3 ;
@@ -115,6 +95,8 @@ public final class EdgesSayingTest {
         can("SAYS: CLERK: one less another", 3, 9, own(30, 29), 1, 1);
         can("SAYS: CLERK: not less two", 3, 9, own(10, 3), 4, 0);
         can("SAYS: CLERK: not a half", 3, 9, own(14), 7, 0);
+        can("SAYS: CLERK: not 1 of itself", 3, 9, own(7), 1, 0);
+        can("SAYS: CLERK: not 30 of itself", 3, 9, own(7), 30, 0);
         can("SAYS: CLERK: not the double of a rest", 3, 9, own(20, 13), 14, 0);
         can("SAYS: CLERK: not one and a rest", 3, 9, own(20, 13), 27, 0);
         can("SAYS: TWIN: as a HALVING", 4, 9, own(30), 15, 1);
@@ -160,7 +142,7 @@ public final class EdgesSayingTest {
         costs(3, 0, "4", 2);
         costs(3, 0, "5", 3);
         // own: 1 if it is OWN, else 0, though one can say it.
-        Edges.Setting adding = rule(x -> Check.heir(x, 1, 0, 1, 15), "says 10+own*20+many*3;meant 1;worth 1;");
+        Setting adding = rule(x -> Check.heir(x, 1, 0, 1, 15), "says 10+own*20+many*3;meant 1;worth 1;");
         asked("TEXT: own of an OWN one", adding, x -> x.says(0, 1, 1), 37);
         asked("TEXT: own of an OWN one", adding, x -> x.says(0, 15, 1), 37);
         asked("TEXT: own of one that can be said", adding, x -> x.says(0, 30, 1), 17);
@@ -174,11 +156,11 @@ public final class EdgesSayingTest {
         String[] es = {"0-9999", "0-1", "0", "1", "98", "99", "100", "9999", "8192*8192*32"};
         int[] worth = {0, 0, 0, 1, 98, 99, 99, 99, 0};
         for (int i = 0; i < es.length; i++) {
-            Edges.Setting setting = rule(x -> x.heir(0, 0), "says 1;meant " + es[i] + ";worth " + es[i] + ";");
+            Setting setting = rule(x -> x.heir(0, 0), "says 1;meant " + es[i] + ";worth " + es[i] + ";");
             asked("worth: 0 .. 99, else the bound: " + es[i], setting, x -> x.says(0, 50, 3), worth[i]);
             asked("meant: not 0: yes: " + es[i], setting, x -> x.says(0, 50, 2), es[i].equals("0") ? 0 : 1);
         }
-        Edges.Setting setting = rule(x -> Check.heir(x, 0, 7, 9), "says 1;meant own+(n=99);worth own+n;");
+        Setting setting = rule(x -> Check.heir(x, 0, 7, 9), "says 1;meant own+(n=99);worth own+n;");
         asked("meant: own of a SUM: 0", setting, x -> x.says(0, 9, 2), 0);
         asked("meant: n is the SUM", setting, x -> x.says(0, 99, 2), 1);
         asked("worth: own of a SUM: 0", setting, x -> x.says(0, 9, 3), 9);
@@ -189,11 +171,11 @@ public final class EdgesSayingTest {
     // ---- 10: common
 
     private static void common() {
-        E.changesNothing("common: no HEIR", Scene.FAMILY, Edges.NO_HEIR, (x, v) -> x.common(v, 0), Edges.BAD);
-        E.changesNothing("common: no other one", Scene.FAMILY, Edges.NO_HEIR, (x, v) -> x.common(0, v), Edges.BAD);
+        E.changesNothing("common: no HEIR", Scene.FAMILY, NO_HEIR, (x, v) -> x.common(v, 0), BAD);
+        E.changesNothing("common: no other one", Scene.FAMILY, NO_HEIR, (x, v) -> x.common(0, v), BAD);
         E.changesNothing("common: one and the same", Scene.FAMILY, new int[] {0, 1, 2}, (x, v) -> x.common(v, v),
-            Edges.BAD);
-        E.changesNothing("common: nobody", Scene.NEW, x -> x.common(0, 1), Edges.BAD);
+            BAD);
+        E.changesNothing("common: nobody", Scene.NEW, x -> x.common(0, 1), BAD);
         E.changesNothing("common: both can say, OWN or not", Scene.FAMILY, x -> x.common(0, 1), Check.bits(5, 6, 8, 10));
         E.changesNothing("common: the last two", Scene.FAMILY, x -> x.common(2, 1), Check.bits(6));
         E.changesNothing("common: first and sixth", Scene.FULL, x -> x.common(0, 5), Check.bits(12));
@@ -211,18 +193,18 @@ public final class EdgesSayingTest {
     private static void paysBad() {
         for (int what = 0; what < 4; what++) {
             int w = what;
-            E.changesNothing("pays: no HEIR", Scene.FAMILY, Edges.NO_HEIR, (x, v) -> x.pays(v, 1, 5, w), Edges.BAD);
-            E.changesNothing("pays: no other one", Scene.FAMILY, Edges.NO_HEIR, (x, v) -> x.pays(1, v, 5, w), Edges.BAD);
+            E.changesNothing("pays: no HEIR", Scene.FAMILY, NO_HEIR, (x, v) -> x.pays(v, 1, 5, w), BAD);
+            E.changesNothing("pays: no other one", Scene.FAMILY, NO_HEIR, (x, v) -> x.pays(1, v, 5, w), BAD);
             E.changesNothing("pays: one and the same", Scene.FAMILY, new int[] {0, 1, 2}, (x, v) -> x.pays(v, v, 5, w),
-                Edges.BAD);
-            E.changesNothing("pays: one and the same, SUM 0", Scene.FAMILY, x -> x.pays(1, 1, 0, w), Edges.BAD);
-            E.changesNothing("pays: no SUM", Scene.FAMILY, Edges.NO_SUM, (x, v) -> x.pays(0, 1, v, w), Edges.BAD);
-            E.changesNothing("pays: nobody", Scene.NEW, x -> x.pays(0, 1, 0, w), Edges.BAD);
+                BAD);
+            E.changesNothing("pays: one and the same, SUM 0", Scene.FAMILY, x -> x.pays(1, 1, 0, w), BAD);
+            E.changesNothing("pays: no SUM", Scene.FAMILY, NO_SUM, (x, v) -> x.pays(0, 1, v, w), BAD);
+            E.changesNothing("pays: nobody", Scene.NEW, x -> x.pays(0, 1, 0, w), BAD);
         }
-        E.changesNothing("pays: no such what", Scene.FAMILY, Edges.whats(0, 3), (x, v) -> x.pays(0, 1, 5, v), Edges.BAD);
+        E.changesNothing("pays: no such what", Scene.FAMILY, whats(0, 3), (x, v) -> x.pays(0, 1, 5, v), BAD);
     }
 
-    private static void paysFour(String sentence, Edges.Setting setting, int sum, int... want) {
+    private static void paysFour(String sentence, Setting setting, int sum, int... want) {
         for (int what = 0; what < 4; what++) {
             int w = what;
             asked(sentence + ": SUM " + sum + ", what " + what, setting, x -> x.pays(0, 1, sum, w), want[what]);
@@ -238,25 +220,25 @@ public final class EdgesSayingTest {
     }
 
     private static void paysInParts() {
-        Edges.Setting ones = family(own(1, 30), own(1));
+        Setting ones = family(own(1, 30), own(1));
         paysFour("pays: the least in the least", ones, 1, 2, 1, 2, 1);
         paysFour("pays: the most in the least", ones, 99, 198, 99, 198, 1);
         paysFour("pays: not by what only one can say", ones, 30, 60, 30, 60, 1);
-        Edges.Setting thirties = family(own(30), own(30));
+        Setting thirties = family(own(30), own(30));
         paysFour("pays: a PART is more than the SUM", thirties, 29, NONE, NONE, NONE, NONE);
         paysFour("pays: a PART is the SUM", thirties, 30, 2, 1, 2, 1);
         paysFour("pays: more than a PART", thirties, 31, NONE, NONE, NONE, NONE);
         paysFour("pays: one may be there more often", thirties, 90, 6, 3, 6, 1);
         paysFour("pays: beside", thirties, 89, NONE, NONE, NONE, NONE);
         paysFour("pays: beside", thirties, 91, NONE, NONE, NONE, NONE);
-        Edges.Setting dear = rule(family(own(1, 30), own(1, 30)), "says 1+(n=30)*29;meant 1;worth 1;");
+        Setting dear = rule(family(own(1, 30), own(1, 30)), "says 1+(n=30)*29;meant 1;worth 1;");
         paysFour("pays: like COSTS", dear, 30, 60, 1, 60, 1);
-        Edges.Setting dearer = rule(family(own(1, 30), own(1, 30)), "says 1+(n=30)*30;meant 1;worth 1;");
+        Setting dearer = rule(family(own(1, 30), own(1, 30)), "says 1+(n=30)*30;meant 1;worth 1;");
         paysFour("pays: what COSTS least has not the fewest PARTS", dearer, 30, 60, 1, 60, 1);
-        Edges.Setting less = rule(family(own(1, 30), own(1, 30)), "says 1+(n=30)*28;meant 1;worth 1;");
+        Setting less = rule(family(own(1, 30), own(1, 30)), "says 1+(n=30)*28;meant 1;worth 1;");
         paysFour("pays: what COSTS least", less, 30, 58, 1, 58, 1);
         // What each says by itself: 4 to the one, 1 to the other.
-        Edges.Setting unlike = rule(family(own(5), own(5)), "says 4-3*heir;meant 1;worth 1;");
+        Setting unlike = rule(family(own(5), own(5)), "says 4-3*heir;meant 1;worth 1;");
         paysFour("pays: COSTS both", unlike, 5, 5, 1, 5, 1);
         // As dear as can be.
         paysFour("pays: 99 PARTS, dear", rule(x -> {
@@ -266,7 +248,7 @@ public final class EdgesSayingTest {
     }
 
     /** Six HEIRS, each of whom can PAY but the next one in that order: by 2, 3, 4, 5, 6. */
-    private static Edges.Setting chain(int... order) {
+    private static Setting chain(int... order) {
         int[][] owns = new int[6][];
         for (int i = 0; i < 6; i++) {
             owns[order[i]] = i == 0 ? own(2) : i == 5 ? own(6) : own(i + 1, i + 2);
@@ -290,17 +272,11 @@ public final class EdgesSayingTest {
                     // Of 30 fours make none, so that nobody pays on behind the third.
                     boolean isCut = from < 3 && to > 2;
                     E.due("THROUGH: the whole SUM each time",
-                        ask(chain(order), x -> x.pays(a, b, 30, 2)), isCut ? NONE : sum / 2);
-                    E.due("STEPS: NONE", ask(chain(order), x -> x.pays(a, b, 30, 3)), isCut ? NONE : to - from);
+                        ask(Scene.NEW, chain(order), x -> x.pays(a, b, 30, 2)), isCut ? NONE : sum / 2);
+                    E.due("STEPS: NONE", ask(Scene.NEW, chain(order), x -> x.pays(a, b, 30, 3)), isCut ? NONE : to - from);
                 }
             }
         }
-    }
-
-    private static long ask(Edges.Setting setting, Edges.Call call) {
-        Counted x = new Counted();
-        setting.of(x);
-        return call.on(x);
     }
 
     /** A way of 2 and one of 3 STEPS, among HEIRS in each order. */
@@ -317,16 +293,16 @@ public final class EdgesSayingTest {
             }
             int a = order[0];
             int b = order[2];
-            E.due("THROUGH: like ways", ask(rule(family(own), like), x -> x.pays(a, b, 60, 2)), 28);
-            E.due("STEPS: the fewest of like ways", ask(rule(family(own), like), x -> x.pays(a, b, 60, 3)), 2);
-            E.due("THROUGH: the longer", ask(rule(family(own), dearer), x -> x.pays(a, b, 60, 2)), 28);
-            E.due("STEPS: not the fewest of all ways", ask(rule(family(own), dearer), x -> x.pays(a, b, 60, 3)), 3);
-            E.due("THROUGH: the shorter", ask(rule(family(own), cheaper), x -> x.pays(a, b, 60, 2)), 18);
-            E.due("STEPS: of the shorter", ask(rule(family(own), cheaper), x -> x.pays(a, b, 60, 3)), 2);
+            E.due("THROUGH: like ways", ask(Scene.NEW, rule(family(own), like), x -> x.pays(a, b, 60, 2)), 28);
+            E.due("STEPS: the fewest of like ways", ask(Scene.NEW, rule(family(own), like), x -> x.pays(a, b, 60, 3)), 2);
+            E.due("THROUGH: the longer", ask(Scene.NEW, rule(family(own), dearer), x -> x.pays(a, b, 60, 2)), 28);
+            E.due("STEPS: not the fewest of all ways", ask(Scene.NEW, rule(family(own), dearer), x -> x.pays(a, b, 60, 3)), 3);
+            E.due("THROUGH: the shorter", ask(Scene.NEW, rule(family(own), cheaper), x -> x.pays(a, b, 60, 2)), 18);
+            E.due("STEPS: of the shorter", ask(Scene.NEW, rule(family(own), cheaper), x -> x.pays(a, b, 60, 3)), 2);
         }
         // At once, or through another: like COSTS, one more, one less.
         for (int price = 3; price <= 5; price++) {
-            Edges.Setting three = rule(family(own(12, 6), own(12, 4), own(6, 4)),
+            Setting three = rule(family(own(12, 6), own(12, 4), own(6, 4)),
                 "says 1+(n=12)*" + price + ";meant 1;worth 1;");
             // 12 at once; or 2 sixes and 3 fours: 5 PARTS.
             paysFour("THROUGH: at once or not, for " + (price + 1), three, 12, 2 * (price + 1), 1,
@@ -354,16 +330,16 @@ public final class EdgesSayingTest {
     private static void barredBad() {
         for (int what = 0; what < 3; what++) {
             int w = what;
-            E.changesNothing("barred: no HEIR", Scene.FAMILY, Edges.NO_HEIR, (x, v) -> x.barred(v, 1, w), Edges.BAD);
-            E.changesNothing("barred: no other one", Scene.FAMILY, Edges.NO_HEIR, (x, v) -> x.barred(1, v, w), Edges.BAD);
+            E.changesNothing("barred: no HEIR", Scene.FAMILY, NO_HEIR, (x, v) -> x.barred(v, 1, w), BAD);
+            E.changesNothing("barred: no other one", Scene.FAMILY, NO_HEIR, (x, v) -> x.barred(1, v, w), BAD);
             E.changesNothing("barred: one and the same", Scene.FAMILY, new int[] {0, 1, 2}, (x, v) -> x.barred(v, v, w),
-                Edges.BAD);
-            E.changesNothing("barred: nobody", Scene.NEW, x -> x.barred(0, 1, w), Edges.BAD);
+                BAD);
+            E.changesNothing("barred: nobody", Scene.NEW, x -> x.barred(0, 1, w), BAD);
         }
-        E.changesNothing("barred: no such what", Scene.FAMILY, Edges.whats(0, 2), (x, v) -> x.barred(0, 1, v), Edges.BAD);
+        E.changesNothing("barred: no such what", Scene.FAMILY, whats(0, 2), (x, v) -> x.barred(0, 1, v), BAD);
     }
 
-    private static void barredThree(String sentence, Edges.Setting setting, int many, int first, int worth) {
+    private static void barredThree(String sentence, Setting setting, int many, int first, int worth) {
         int[] want = {many, first, worth};
         for (int what = 0; what < 3; what++) {
             int w = what;
@@ -372,7 +348,7 @@ public final class EdgesSayingTest {
     }
 
     private static void barred() {
-        Edges.Setting none = family(own(), own());
+        Setting none = family(own(), own());
         barredThree("SUMS 1 .. 99", none, 99, 1, 4950);
         barredThree("none", family(own(1), own(1)), 0, NONE, 0);
         barredThree("not what can be paid", family(own(3), own(3)), 66, 1, 3267);
@@ -399,14 +375,14 @@ public final class EdgesSayingTest {
 
     // ---- 13: silent
 
-    private static void silentTwo(String sentence, Edges.Setting setting, int many, int first) {
+    private static void silentTwo(String sentence, Setting setting, int many, int first) {
         asked("SILENT: " + sentence + ": how many", setting, x -> x.silent(0), many);
         asked("SILENT: " + sentence + ": the first", setting, x -> x.silent(1), first);
     }
 
     private static void silent() {
-        E.changesNothing("silent: no such what", Scene.FAMILY, Edges.whats(0, 1), (x, v) -> x.silent(v), Edges.BAD);
-        E.changesNothing("silent: no such what", Scene.NEW, Edges.whats(0, 1), (x, v) -> x.silent(v), Edges.BAD);
+        E.changesNothing("silent: no such what", Scene.FAMILY, whats(0, 1), (x, v) -> x.silent(v), BAD);
+        E.changesNothing("silent: no such what", Scene.NEW, whats(0, 1), (x, v) -> x.silent(v), BAD);
         silentTwo("nobody", family(), 99, 1);
         silentTwo("one alone", family(own(1)), 99, 1);
         silentTwo("two, nothing in COMMON", family(own(1), own(2)), 99, 1);
@@ -417,6 +393,11 @@ public final class EdgesSayingTest {
         silentTwo("by first and last", family(own(1), own(), own(), own(), own(), own(1)), 0, NONE);
         silentTwo("by two pairs", family(own(2), own(2), own(3), own(3)), 33, 1);
         silentTwo("by one with two", family(own(2), own(2, 3), own(3)), 33, 1);
+        silentTwo("asked again", x -> {
+            family(own(1, 2), own(1, 2)).of(x);
+            x.silent(0);
+            x.set(2, 1, Check.bits(2));
+        }, 50, 1);
         silentTwo("meant or not", rule(family(own(2), own(2)), "says 1;meant 0;worth 1;"), 50, 1);
     }
 
@@ -425,14 +406,14 @@ public final class EdgesSayingTest {
     private static void middleBad() {
         for (int what = 0; what < 2; what++) {
             int w = what;
-            E.changesNothing("middle: SUM 1 .. 99", Scene.FAMILY, NO_MIDDLE_SUM, (x, v) -> x.middle(v, w), Edges.BAD);
-            E.changesNothing("middle: SUM 1 .. 99", Scene.NEW, NO_MIDDLE_SUM, (x, v) -> x.middle(v, w), Edges.BAD);
+            E.changesNothing("middle: SUM 1 .. 99", Scene.FAMILY, NO_MIDDLE_SUM, (x, v) -> x.middle(v, w), BAD);
+            E.changesNothing("middle: SUM 1 .. 99", Scene.NEW, NO_MIDDLE_SUM, (x, v) -> x.middle(v, w), BAD);
         }
-        E.changesNothing("middle: no such what", Scene.FAMILY, Edges.whats(0, 1), (x, v) -> x.middle(9, v), Edges.BAD);
-        E.changesNothing("middle: no such what", Scene.NEW, Edges.whats(0, 1), (x, v) -> x.middle(9, v), Edges.BAD);
+        E.changesNothing("middle: no such what", Scene.FAMILY, whats(0, 1), (x, v) -> x.middle(9, v), BAD);
+        E.changesNothing("middle: no such what", Scene.NEW, whats(0, 1), (x, v) -> x.middle(9, v), BAD);
     }
 
-    private static void middleTwo(String sentence, Edges.Setting setting, int sum, int heir, int pairs) {
+    private static void middleTwo(String sentence, Setting setting, int sum, int heir, int pairs) {
         asked("MIDDLE: " + sentence + ", of " + sum, setting, x -> x.middle(sum, 0), heir);
         asked("MIDDLE: " + sentence + ", of " + sum + ": pairs", setting, x -> x.middle(sum, 1), pairs);
     }

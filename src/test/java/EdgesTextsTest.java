@@ -1,5 +1,5 @@
 /** The edges of promises 6 to 8: feed, text, force; and of what a TEXT may be. */
-public final class EdgesTextsTest {
+public final class EdgesTextsTest extends Edges {
     private static final Edges E = new Edges();
     private static final int[] NO_BYTE = {-1, 256, 257, Integer.MIN_VALUE, Integer.MAX_VALUE};
     private static final String GOOD = "says 1;meant 1;worth 1;";
@@ -13,7 +13,9 @@ public final class EdgesTextsTest {
         faultPlaces();
         faultOfAnyByte();
         tokens();
+        words();
         staleTape();
+        longTexts();
         grammar();
         open();
         ints();
@@ -28,8 +30,8 @@ public final class EdgesTextsTest {
             E.answered("feed: a byte 0 .. 255", Scene.NEW, x -> x.feed(letter), 1);
             E.answered("feed: a byte comes behind THE TAPE", Scene.FAMILY, x -> x.feed(letter), 24);
         }
-        E.changesNothing("feed: no byte", Scene.NEW, NO_BYTE, (x, v) -> x.feed(v), Edges.BAD);
-        E.changesNothing("feed: no byte", Scene.FAMILY, NO_BYTE, (x, v) -> x.feed(v), Edges.BAD);
+        E.changesNothing("feed: no byte", Scene.NEW, NO_BYTE, (x, v) -> x.feed(v), BAD);
+        E.changesNothing("feed: no byte", Scene.FAMILY, NO_BYTE, (x, v) -> x.feed(v), BAD);
     }
 
     private static void feedFull() {
@@ -37,10 +39,10 @@ public final class EdgesTextsTest {
         for (int i = 1; i <= 160; i++) {
             E.due("feed: 160 bytes at most", x.feed(i), i);
         }
-        E.due("feed: 160 bytes at most: one more", x.feed(32), Edges.FULL);
+        E.due("feed: 160 bytes at most: one more", x.feed(32), FULL);
         int[] bytes = {0, 32, 255};
-        E.changesNothing("feed: 160 bytes at most: one more", Scene.FULL, bytes, (y, v) -> y.feed(v), Edges.FULL);
-        E.changesNothing("feed: BAD ahead of FULL", Scene.FULL, NO_BYTE, (y, v) -> y.feed(v), Edges.BAD);
+        E.changesNothing("feed: 160 bytes at most: one more", Scene.FULL, bytes, (y, v) -> y.feed(v), FULL);
+        E.changesNothing("feed: BAD ahead of FULL", Scene.FULL, NO_BYTE, (y, v) -> y.feed(v), BAD);
         E.due("feed: 160 bytes: a FAULT", x.text(), -100);
         E.due("feed: room again", x.feed(32), 1);
     }
@@ -63,7 +65,7 @@ public final class EdgesTextsTest {
     }
 
     private static void textFull() {
-        E.changesNothing("text: no TEXT more has room, THE TAPE stays", Scene.FULL, x -> x.text(), Edges.FULL);
+        E.changesNothing("text: no TEXT more has room, THE TAPE stays", Scene.FULL, x -> x.text(), FULL);
         E.answered("text: THE TAPE stays", Scene.FULL, x -> {
             x.text();
             return x.count(2);
@@ -182,7 +184,17 @@ public final class EdgesTextsTest {
         fault("says 1;meantn;", 7);
         fault("says n and own or more andn;", 23);
         stands("says 1and 2or 3;meant 1;worth 1;");
+        for (char c = 'a'; c <= 'z'; c++) {
+            fault("says n" + c + ";", 5);
+            fault("says " + c + "n;", 5);
+            fault("says 1" + c + "1;", 6);
+        }
         // NUMBERS: as many digits as stand there, 4 at most.
+        for (char c = '0'; c <= '9'; c++) {
+            stands("says " + c + ";meant 1" + c + ";worth " + c + "9" + c + c + ";");
+            fault("says 123" + c + "9;", 5);
+            fault("says n" + c + ";", 6);
+        }
         stands("says 0;meant 9999;worth 0000;");
         fault("says 10000;", 5);
         fault("says 00001;", 5);
@@ -199,6 +211,43 @@ public final class EdgesTextsTest {
         fault("says " + (char) 160 + "1;", 5);
         fault("says " + (char) ('n' + 128) + ";", 5);
         fault("says " + (char) ('1' + 128) + ";", 5);
+    }
+
+    /** A WORD that is neither KEY nor NAME, if but one of its letters is another. */
+    private static void words() {
+        String[][] standing = {{"", "says", " 1;meant 1;worth 1;"}, {"says 1;", "meant", " 1;worth 1;"},
+            {"says 1;meant 1;", "worth", " 1;"}, {"says 1 ", "or", " 2;meant 1;worth 1;"},
+            {"says 1 ", "and", " 2;meant 1;worth 1;"}, {"says ", "not", " 2;meant 1;worth 1;"},
+            {"says ", "n", ";meant 1;worth 1;"}, {"says ", "own", ";meant 1;worth 1;"},
+            {"says ", "more", ";meant 1;worth 1;"}, {"says (", "many", ");meant 1;worth 1;"},
+            {"says -", "heir", ";meant 1;worth 1;"}, {"says 1+", "day", ";meant 1;worth 1;"}};
+        for (String[] part : standing) {
+            stands(part[0] + part[1] + part[2]);
+            int place = part[0].length();
+            String word = part[1];
+            for (int i = 0; i < word.length(); i++) {
+                String ahead = word.substring(0, i);
+                String behind = word.substring(i + 1);
+                fault(part[0] + ahead + (char) (word.charAt(i) ^ 1) + behind + part[2], place);
+                fault(part[0] + ahead + "q" + behind + part[2], place);
+                // Letters and capitals are not alike: what is ahead of one is a WORD of its own, or none.
+                if (i == 0) {
+                    fault(part[0] + (char) (word.charAt(i) - 32) + behind + part[2], place);
+                }
+            }
+            fault(part[0] + word + "q" + part[2], place);
+            fault(part[0] + "q" + word + part[2], place);
+        }
+        // Behind what may stand twice.
+        fault("says (x);", 6);
+        fault("says -x;", 6);
+        fault("says not x;", 9);
+        fault("says not not x;", 13);
+        fault("says 1 and x;", 11);
+        fault("says 1*x;", 7);
+        fault("says (12345);", 6);
+        fault("says -12345;", 6);
+        fault("says not 12345;", 9);
     }
 
     /** What stood on THE TAPE before makes no TOKEN longer. */
@@ -219,6 +268,32 @@ public final class EdgesTextsTest {
             Check.text(x, "says 1         ");
             return Check.text(x, "says 1");
         }, -106);
+    }
+
+    /** 160 bytes that stand behind 160 that don't. */
+    private static void longTexts() {
+        StringBuilder longest = new StringBuilder("says 1;meant 1;worth n ");
+        while (longest.length() < 159) {
+            longest.append("+1");
+        }
+        E.answered("text: 160 bytes: 68 ones and the SUM", Scene.NEW, x -> {
+            x.heir(0, 0);
+            x.force(Check.text(x, longest + ";"));
+            return x.says(0, 1, 3);
+        }, 69);
+        E.answered("text: 160 bytes, behind a FAULT", Scene.NEW, x -> {
+            Check.text(x, longest + "n");
+            x.heir(0, 0);
+            x.force(Check.text(x, longest + ";"));
+            return x.says(0, 1, 3);
+        }, 69);
+        E.answered("text: another one stays as it was", Scene.NEW, x -> {
+            x.heir(0, 0);
+            x.force(Check.text(x, longest + ";"));
+            Check.text(x, "says 9;meant 9;worth 9-9*9;");
+            Check.text(x, "says 9;meant 9;worth");
+            return x.says(0, 1, 3);
+        }, 69);
     }
 
     private static void grammar() {
@@ -385,19 +460,19 @@ public final class EdgesTextsTest {
             x.force(0);
             return x.count(3);
         }, 0);
-        E.changesNothing("force: no TEXT", Scene.FAMILY, Edges.NO_TEXT, (x, v) -> x.force(v), Edges.BAD);
-        E.changesNothing("force: no TEXT but TEXT 0", Scene.NEW, x -> x.force(1), Edges.BAD);
+        E.changesNothing("force: no TEXT", Scene.FAMILY, NO_TEXT, (x, v) -> x.force(v), BAD);
+        E.changesNothing("force: no TEXT but TEXT 0", Scene.NEW, x -> x.force(1), BAD);
         E.answered("force: TEXT 0 of a new one", Scene.NEW, x -> x.force(0), 0);
         E.answered("force: the first of six", Scene.FULL, x -> x.force(0), 5);
         E.answered("force: the sixth", Scene.FULL, x -> {
             x.force(0);
             return 10 * x.force(5) + x.count(3);
         }, 5);
-        E.changesNothing("force: a seventh", Scene.FULL, x -> x.force(6), Edges.BAD);
+        E.changesNothing("force: a seventh", Scene.FULL, x -> x.force(6), BAD);
         E.answered("force: a FAULT is no TEXT", Scene.NEW, x -> {
             Check.text(x, GOOD + "1");
             return x.force(1);
-        }, Edges.BAD);
+        }, BAD);
         E.answered("force: what it is: the last one's says", Scene.FULL, x -> x.says(0, 1, 1), 5);
         E.answered("force: what it is: another one's says", Scene.FULL, x -> {
             x.force(2);

@@ -1,5 +1,5 @@
 /** The edges of promises 18 to 24: rows, film, drawn, chance, image, back, count. */
-public final class EdgesToldTest {
+public final class EdgesToldTest extends Edges {
     private static final Edges E = new Edges();
     private static final int NONE = NumbersInherited.NONE;
     private static final long NO = NumbersInherited.NO;
@@ -33,28 +33,15 @@ public final class EdgesToldTest {
         E.close();
     }
 
-    /** HEIRS without KIND or MORE, each with its OWN. */
-    private static Edges.Setting family(int[]... owns) {
-        return x -> {
-            for (int[] own : owns) {
-                Check.heir(x, 0, 0, own);
-            }
-        };
-    }
-
-    private static int[] own(int... numbers) {
-        return numbers;
-    }
-
     /** With SHEET 3 of ints, told so. */
-    private static Edges.Setting told(Edges.Setting family, int... items) {
+    private static Setting told(Setting family, int... items) {
         return x -> {
             family.of(x);
             Check.sheet(x, 3, 2, items);
         };
     }
 
-    private static void rows(String sentence, Edges.Setting setting, int what, int want) {
+    private static void rows(String sentence, Setting setting, int what, int want) {
         E.changesNothing(sentence, Scene.NEW, setting, x -> x.rows(3, 0, 1, what), want);
     }
 
@@ -63,21 +50,21 @@ public final class EdgesToldTest {
     private static void rowsBad() {
         for (int what = 0; what < 6; what++) {
             int w = what;
-            E.changesNothing("rows: no SHEET", Scene.FAMILY, Edges.NO_SHEET, (x, v) -> x.rows(v, 0, 1, w), Edges.BAD);
-            E.changesNothing("rows: no HEIR", Scene.FAMILY, Edges.NO_HEIR, (x, v) -> x.rows(1, v, 1, w), Edges.BAD);
-            E.changesNothing("rows: no other one", Scene.FAMILY, Edges.NO_HEIR, (x, v) -> x.rows(1, 1, v, w), Edges.BAD);
+            E.changesNothing("rows: no SHEET", Scene.FAMILY, NO_SHEET, (x, v) -> x.rows(v, 0, 1, w), BAD);
+            E.changesNothing("rows: no HEIR", Scene.FAMILY, NO_HEIR, (x, v) -> x.rows(1, v, 1, w), BAD);
+            E.changesNothing("rows: no other one", Scene.FAMILY, NO_HEIR, (x, v) -> x.rows(1, 1, v, w), BAD);
             E.changesNothing("rows: one and the same", Scene.FAMILY, new int[] {0, 1, 2}, (x, v) -> x.rows(1, v, v, w),
-                Edges.BAD);
-            E.changesNothing("rows: nobody", Scene.NEW, x -> x.rows(0, 0, 1, w), Edges.BAD);
+                BAD);
+            E.changesNothing("rows: nobody", Scene.NEW, x -> x.rows(0, 0, 1, w), BAD);
             // BAD is ahead of -11.
-            E.changesNothing("rows: no HEIR, missing", Scene.FAMILY, Edges.NO_HEIR, (x, v) -> x.rows(3, v, 1, w), Edges.BAD);
-            E.changesNothing("rows: no other, missing", Scene.FAMILY, Edges.NO_HEIR, (x, v) -> x.rows(3, 1, v, w), Edges.BAD);
-            E.changesNothing("rows: one and the same, missing", Scene.FAMILY, x -> x.rows(3, 1, 1, w), Edges.BAD);
-            E.changesNothing("rows: missing", Scene.FAMILY, x -> x.rows(3, 0, 1, w), Edges.NOTHING);
+            E.changesNothing("rows: no HEIR, missing", Scene.FAMILY, NO_HEIR, (x, v) -> x.rows(3, v, 1, w), BAD);
+            E.changesNothing("rows: no other, missing", Scene.FAMILY, NO_HEIR, (x, v) -> x.rows(3, 1, v, w), BAD);
+            E.changesNothing("rows: one and the same, missing", Scene.FAMILY, x -> x.rows(3, 1, 1, w), BAD);
+            E.changesNothing("rows: missing", Scene.FAMILY, x -> x.rows(3, 0, 1, w), NOTHING);
         }
-        int[] whats = Edges.whats(0, 5);
-        E.changesNothing("rows: no such what", Scene.FAMILY, whats, (x, v) -> x.rows(1, 0, 1, v), Edges.BAD);
-        E.changesNothing("rows: no such what, missing", Scene.FAMILY, whats, (x, v) -> x.rows(3, 0, 1, v), Edges.BAD);
+        int[] whats = whats(0, 5);
+        E.changesNothing("rows: no such what", Scene.FAMILY, whats, (x, v) -> x.rows(1, 0, 1, v), BAD);
+        E.changesNothing("rows: no such what, missing", Scene.FAMILY, whats, (x, v) -> x.rows(3, 0, 1, v), BAD);
     }
 
     private static void rowsOfNothing() {
@@ -100,7 +87,7 @@ public final class EdgesToldTest {
     }
 
     private static void rowsBySize() {
-        Edges.Setting family = family(own(), own());
+        Setting family = family(own(), own());
         for (int size = 1; size <= 40; size++) {
             int n = size;
             for (int what = 0; what < 6; what++) {
@@ -108,31 +95,25 @@ public final class EdgesToldTest {
                 boolean isOdd = size % 2 == 1;
                 // All 0: SUM 0 COSTS 0.
                 int[] so = {NONE, 63, 1023, 1, 0, ALL};
-                long got = ask(x -> {
+                long got = ask(Scene.NEW, x -> {
                     family.of(x);
                     x.sheet(3, 0, n);
                 }, x -> x.rows(3, 0, 1, w));
-                E.due("rows: its size by twos: " + size, got, isOdd ? Edges.BAD : so[what]);
+                E.due("rows: its size by twos: " + size, got, isOdd ? BAD : so[what]);
             }
         }
-        E.changesNothing("rows: of one item", Scene.FAMILY, x -> x.sheet(3, 1, 1), x -> x.rows(3, 0, 1, 0), Edges.BAD);
-        E.changesNothing("rows: of 39", Scene.FAMILY, x -> x.sheet(3, 1, 39), x -> x.rows(3, 0, 1, 4), Edges.BAD);
-    }
-
-    private static long ask(Edges.Setting setting, Edges.Call call) {
-        Counted x = new Counted();
-        setting.of(x);
-        return call.on(x);
+        E.changesNothing("rows: of one item", Scene.FAMILY, x -> x.sheet(3, 1, 1), x -> x.rows(3, 0, 1, 0), BAD);
+        E.changesNothing("rows: of 39", Scene.FAMILY, x -> x.sheet(3, 1, 39), x -> x.rows(3, 0, 1, 4), BAD);
     }
 
     private static void rowsOfNoSum() {
         for (int what = 0; what < 6; what++) {
             int w = what;
-            for (int sum : Edges.NO_SUM) {
-                rows("rows: no such SUM: " + sum, told(family(own(), own()), sum, NONE), w, Edges.BAD);
-                rows("rows: no such SUM behind: " + sum, told(family(own(), own()), 0, 0, 1, NONE, sum, 0), w, Edges.BAD);
+            for (int sum : NO_SUM) {
+                rows("rows: no such SUM: " + sum, told(family(own(), own()), sum, NONE), w, BAD);
+                rows("rows: no such SUM behind: " + sum, told(family(own(), own()), 0, 0, 1, NONE, sum, 0), w, BAD);
                 rows("rows: no such SUM behind one that is otherwise", told(family(own(), own()), 1, 5, sum, 0), w,
-                    Edges.BAD);
+                    BAD);
             }
         }
         rows("rows: SUM 0", told(family(own(), own()), 0, 0), 0, NONE);
@@ -145,13 +126,13 @@ public final class EdgesToldTest {
         rows("rows: COSTS 0 aren't NONE", told(family(own(), own()), 1, 0), 0, 0);
         // A byte of 200 is below 0, one of 355 is 99.
         E.changesNothing("rows: a SUM of bytes", Scene.FAMILY, x -> Check.sheet(x, 3, 0, 200, 0), x -> x.rows(3, 0, 1, 0),
-            Edges.BAD);
+            BAD);
         E.changesNothing("rows: a SUM of bytes", Scene.FAMILY, x -> Check.sheet(x, 3, 0, 355, 99), x -> x.rows(3, 0, 1, 0),
             0);
     }
 
     private static void rowsFirst() {
-        Edges.Setting twos = family(own(2), own(2));
+        Setting twos = family(own(2), own(2));
         for (int at = 0; at <= 20; at++) {
             int[] items = new int[40];
             for (int row = 0; row < 20; row++) {
@@ -166,7 +147,7 @@ public final class EdgesToldTest {
     }
 
     /** One of a KIND and MORE who has 3, and an HEIR who has it; each 3 COSTS 3 ahead of KIND. */
-    private static Edges.Setting three(int kind, int more, int costs) {
+    private static Setting three(int kind, int more, int costs) {
         return told(x -> {
             Check.heir(x, kind, more, 3);
             Check.heir(x, 0, 0, 3);
@@ -249,6 +230,20 @@ public final class EdgesToldTest {
         rows("MAY: that alone, not two together", told(family(own(), own(1, 30)), 31, 4), 5, 0);
         rows("MAY: those that aren't OWN", told(family(own(1, 30), own(1, 30)), 31, 4), 5, ALL & ~Check.bits(1, 30));
         rows("MAY: not all would be so", told(family(own(2), own(2)), 2, 3), 5, 0);
+        // Each as of one's KIND and MORE, on a new object: no other has been asked about before.
+        Setting adding = told(x -> {
+            Check.heir(x, 1, 0);
+            Check.heir(x, 0, 0, 2);
+        }, 2, 3);
+        rows("MAY: of an ADDING one", adding, 5, Check.bits(1, 2));
+        Setting halving = told(x -> {
+            Check.heir(x, 2, 7, 24);
+            Check.heir(x, 0, 0, 12);
+        }, 12, 9);
+        rows("MAY: of a HALVING one", halving, 5, ALL & ~Check.bits(24));
+        rows("MUST: of a HALVING one", halving, 4, Check.bits(24));
+        rows("KINDS: of a HALVING one", halving, 1, 4 | 16);
+        rows("MORES: of a HALVING one", halving, 2, 1 << 7);
         // Asked of one, then of the other, with nothing between.
         Counted x = new Counted();
         told(family(own(4), own(9), own(4, 9)), 4, 2).of(x);
@@ -260,18 +255,18 @@ public final class EdgesToldTest {
     // ---- 19: film
 
     private static void filmBad() {
-        E.changesNothing("film: no SHEET", Scene.FAMILY, Edges.NO_SHEET, (x, v) -> x.film(v, 1, 0, 1), Edges.BAD);
+        E.changesNothing("film: no SHEET", Scene.FAMILY, NO_SHEET, (x, v) -> x.film(v, 1, 0, 1), BAD);
         E.changesNothing("film: ab: no such, one and the same", Scene.FAMILY, NO_PAIR, (x, v) -> x.film(1, v, 0, 1),
-            Edges.BAD);
-        E.changesNothing("film: no SUM", Scene.FAMILY, Edges.NO_SUM, (x, v) -> x.film(1, 1, v, 1), Edges.BAD);
+            BAD);
+        E.changesNothing("film: no SUM", Scene.FAMILY, NO_SUM, (x, v) -> x.film(1, 1, v, 1), BAD);
         int[] no = {-1, 21, Integer.MIN_VALUE, Integer.MAX_VALUE};
-        E.changesNothing("film: n 0 .. 20", Scene.FAMILY, no, (x, v) -> x.film(1, 1, 0, v), Edges.BAD);
-        E.changesNothing("film: n 0 .. 20, though 99 is near", Scene.FAMILY, no, (x, v) -> x.film(1, 1, 99, v), Edges.BAD);
-        E.changesNothing("film: no SUM, and none asked for", Scene.FAMILY, x -> x.film(1, 1, 100, 0), Edges.BAD);
-        E.changesNothing("film: nobody", Scene.NEW, x -> x.film(0, 1, 0, 0), Edges.BAD);
-        E.changesNothing("film: a missing SHEET stays so", Scene.FAMILY, x -> x.film(3, 1, 0, 21), Edges.BAD);
+        E.changesNothing("film: n 0 .. 20", Scene.FAMILY, no, (x, v) -> x.film(1, 1, 0, v), BAD);
+        E.changesNothing("film: n 0 .. 20, though 99 is near", Scene.FAMILY, no, (x, v) -> x.film(1, 1, 99, v), BAD);
+        E.changesNothing("film: no SUM, and none asked for", Scene.FAMILY, x -> x.film(1, 1, 100, 0), BAD);
+        E.changesNothing("film: nobody", Scene.NEW, x -> x.film(0, 1, 0, 0), BAD);
+        E.changesNothing("film: a missing SHEET stays so", Scene.FAMILY, x -> x.film(3, 1, 0, 21), BAD);
         int[] six = {6, 16, 56, 60, 65, 66, 55, 0, 77, 99, 105, 115};
-        E.changesNothing("film: ab of six", Scene.FULL, six, (x, v) -> x.film(1, v, 0, 1), Edges.BAD);
+        E.changesNothing("film: ab of six", Scene.FULL, six, (x, v) -> x.film(1, v, 0, 1), BAD);
     }
 
     private static void filmMany() {
@@ -289,7 +284,7 @@ public final class EdgesToldTest {
                 E.answered(name + ": of no more", Scene.FAMILY, x -> {
                     x.film(s, 1, ask[0], ask[1]);
                     return x.copy(s, 0, s, 0, 2 * ask[2] + 1);
-                }, Edges.OUTSIDE);
+                }, OUTSIDE);
                 E.answered(name + ": shorts", Scene.FAMILY, x -> {
                     x.film(s, 1, ask[0], ask[1]);
                     return x.heirs(s, 1, 0, 0);
@@ -326,25 +321,28 @@ public final class EdgesToldTest {
 
     /** SUM and COSTS, each as MORE of an HEIR who comes of it. */
     private static void filmItems() {
-        Edges.Setting family = family(own(2), own(2));
+        Setting family = family(own(2), own(2));
         int[] items = {0, 0, 1, NONE, 2, 2, 3, NONE, 4, 4, 5, NONE};
-        for (int i = 0; i < items.length; i++) {
-            int at = i;
-            long got = ask(family, x -> {
-                x.film(3, 1, 0, 6);
-                x.sheet(2, 1, 2);
-                x.copy(3, at, 2, 1, 1);
-                return x.heirs(2, 1, 0, 1) == 1 ? x.told(2, 1) : NONE;
-            });
-            E.due("film: item " + i, got, items[i]);
+        for (int from = 0; from < 3; from++) {
+            int first = from;
+            for (int i = 0; i < items.length - 2 * from; i++) {
+                int at = i;
+                long got = ask(Scene.NEW, family, x -> {
+                    x.film(3, 1, first, 6 - first);
+                    x.sheet(2, 1, 2);
+                    x.copy(3, at, 2, 1, 1);
+                    return x.heirs(2, 1, 0, 1) == 1 ? x.told(2, 1) : NONE;
+                });
+                E.due("film: from " + from + ": item " + i, got, items[2 * from + i]);
+            }
         }
-        long stays = ask(family, x -> {
+        long stays = ask(Scene.NEW, family, x -> {
             x.film(3, 1, 0, 3);
             x.set(2, 0, 0);
             return x.rows(3, 0, 1, 0);
         });
         E.due("film: a SHEET stays as it was told", stays, 2);
-        long most = ask(x -> {
+        long most = ask(Scene.NEW, x -> {
             Check.heir(x, 5, 9, 1);
             Check.heir(x, 2, 9, 1);
             x.force(Check.text(x, "says 99;meant 1;worth 1;"));
@@ -357,7 +355,7 @@ public final class EdgesToldTest {
 
     // ---- 20: drawn; 21: chance
 
-    private static long drawnByHand(Edges.Setting setting, int seed) {
+    private static long drawnByHand(Setting setting, int seed) {
         Counted x = new Counted();
         setting.of(x);
         int s = seed;
@@ -373,16 +371,16 @@ public final class EdgesToldTest {
 
     private static void drawn() {
         int[] none = {0, 1, -1};
-        E.changesNothing("drawn: no HEIRS", Scene.NEW, none, (x, v) -> x.drawn(v), Edges.STATE);
-        E.changesNothing("drawn: one HEIR", Scene.NEW, family(own(1)), x -> x.drawn(1), Edges.STATE);
-        Edges.Setting[] twos = {family(own(), own()), family(own(1), own(1), own(2), own(3), own(4), own(5)), x -> {
+        E.changesNothing("drawn: no HEIRS", Scene.NEW, none, (x, v) -> x.drawn(v), STATE);
+        E.changesNothing("drawn: one HEIR", Scene.NEW, family(own(1)), x -> x.drawn(1), STATE);
+        Setting[] twos = {family(own(), own()), family(own(1), own(1), own(2), own(3), own(4), own(5)), x -> {
             x.heir(3, 1);
             x.heir(5, 2);
         }, x -> {
             x.heir(4, 9);
             x.heir(2, 0);
         }};
-        for (Edges.Setting two : twos) {
+        for (Setting two : twos) {
             for (int seed : SEEDS) {
                 E.changesNothing("drawn: by " + seed, Scene.NEW, two, x -> x.drawn(seed), drawnByHand(two, seed));
             }
@@ -405,17 +403,17 @@ public final class EdgesToldTest {
             E.changesNothing("chance: no HEIRS", Scene.NEW, x -> x.chance(1, 1, p), NO);
             E.changesNothing("chance: one HEIR", Scene.NEW, family(own(1)), x -> x.chance(1, 1, p), NO);
         }
-        E.changesNothing("chance: no such part", Scene.FAMILY, Edges.whats(0, 1), (x, v) -> x.chance(1, 1, v), NO);
+        E.changesNothing("chance: no such part", Scene.FAMILY, whats(0, 1), (x, v) -> x.chance(1, 1, v), NO);
     }
 
-    private static void chanceOf(String sentence, Edges.Setting setting, int seed, int n, int above, int below) {
+    private static void chanceOf(String sentence, Setting setting, int seed, int n, int above, int below) {
         E.changesNothing("chance: " + sentence + ": above", Scene.NEW, setting, x -> x.chance(seed, n, 0), above);
         E.changesNothing("chance: " + sentence + ": below", Scene.NEW, setting, x -> x.chance(seed, n, 1), below);
     }
 
     private static void chance() {
-        Edges.Setting none = family(own(), own());
-        Edges.Setting all = family(own(1), own(1));
+        Setting none = family(own(), own());
+        Setting all = family(own(1), own(1));
         for (int seed : SEEDS) {
             chanceOf("n 1, always", none, seed, 1, drawnByHand(none, seed) > 0 ? 1 : 0, 1);
             chanceOf("n 1, never", all, seed, 1, 0, 1);
@@ -424,7 +422,7 @@ public final class EdgesToldTest {
         // As many as now are not more; one less now, and they are.
         for (int seed : new int[] {5, 77, 1000}) {
             int now = (int) drawnByHand(none, seed);
-            Edges.Setting like = x -> {
+            Setting like = x -> {
                 none.of(x);
                 int z = seed * 1103515245 + 12345;
                 int y = z * 1103515245 + 12345;
@@ -433,12 +431,24 @@ public final class EdgesToldTest {
                 y = z * 1103515245 + 12345;
                 x.set(2, 1, ((y >>> 9) & 1023) << 10 | (z >>> 9) & 1023);
             };
-            E.due("drawn as now", ask(like, x -> 99 - x.barred(0, 1, 0)), now);
+            E.due("drawn as now", ask(Scene.NEW, like, x -> 99 - x.barred(0, 1, 0)), now);
             chanceOf("not more than now", like, seed, 1, 0, 1);
         }
-        // n seeds, each 1 more, also behind the greatest int.
-        Edges.Setting some = family(own(4, 9), own(4, 9));
-        long now = ask(some, x -> 99 - x.barred(0, 1, 0));
+        seedsInARow(family(own(4, 9), own(4, 9)));
+        seedsInARow(x -> {
+            Check.heir(x, 4, 9, 18);
+            Check.heir(x, 0, 0, 9);
+            Check.heir(x, 1, 0, 1);
+        });
+        seedsInARow(x -> {
+            Check.heir(x, 5, 0, 25);
+            Check.heir(x, 3, 0, 22, 30);
+        });
+    }
+
+    /** n seeds, each 1 more, also behind the greatest int. */
+    private static void seedsInARow(Setting some) {
+        long now = ask(Scene.NEW, some, x -> 99 - x.barred(0, 1, 0));
         for (int seed : SEEDS) {
             int above = 0;
             for (int n = 1; n <= 20; n++) {
@@ -470,9 +480,9 @@ public final class EdgesToldTest {
     }
 
     private static void back() {
-        E.changesNothing("back: there is none", Scene.NEW, x -> x.back(), Edges.STATE);
+        E.changesNothing("back: there is none", Scene.NEW, x -> x.back(), STATE);
         E.changesNothing("back: there is none, though there are HEIRS", Scene.NEW, family(own(1), own(2)), x -> x.back(),
-            Edges.STATE);
+            STATE);
         E.answered("back: how many HEIRS", Scene.FAMILY, x -> x.back(), 1);
         E.answered("back: how many HEIRS", Scene.FULL, x -> x.back(), 2);
         E.answered("back: HEIRS that came since go", Scene.FULL, x -> {
@@ -484,7 +494,7 @@ public final class EdgesToldTest {
             E.answered("back: HEIRS that came since go", Scene.FULL, x -> {
                 x.back();
                 return x.told(h, 1);
-            }, Edges.BAD);
+            }, BAD);
         }
         E.answered("back: it stays", Scene.FULL, x -> {
             x.back();
@@ -504,7 +514,7 @@ public final class EdgesToldTest {
     }
 
     private static void backKeeps() {
-        Edges.Call[] asked = {x -> x.told(0, 0), x -> x.told(0, 1), x -> x.told(0, 2), x -> x.count(3), x -> x.told(0, 3),
+        Call[] asked = {x -> x.told(0, 0), x -> x.told(0, 1), x -> x.told(0, 2), x -> x.count(3), x -> x.told(0, 3),
             x -> x.count(1), x -> x.count(2), x -> x.copy(1, 0, 1, 0, 6), x -> x.heirs(1, 1, 1, 2), x -> x.text()};
         // THE DAY, MORE, OWN, THE RULE as they were; KIND, TEXTS, THE TAPE, SHEETS as they are.
         long[] want = {10, 3, Check.bits(3, 5), 0, 1, 2, 23, 6, 1, 2};
@@ -528,6 +538,12 @@ public final class EdgesToldTest {
             x.back();
             return 100 * x.told(5, 4) + x.told(5, 1);
         }, 206);
+        E.answered("back: THE RULE that was, though not TEXT 0", Scene.FULL, x -> {
+            x.image();
+            x.force(2);
+            x.back();
+            return x.count(3);
+        }, 5);
         E.answered("back: THE RULE that was, not one that came since", Scene.FAMILY, x -> {
             x.force(x.text());
             x.back();
@@ -538,8 +554,8 @@ public final class EdgesToldTest {
     // ---- 24: count
 
     private static void count() {
-        E.changesNothing("count: no such what", Scene.NEW, Edges.whats(0, 4), (x, v) -> x.count(v), Edges.BAD);
-        E.changesNothing("count: no such what", Scene.FULL, Edges.whats(0, 4), (x, v) -> x.count(v), Edges.BAD);
+        E.changesNothing("count: no such what", Scene.NEW, whats(0, 4), (x, v) -> x.count(v), BAD);
+        E.changesNothing("count: no such what", Scene.FULL, whats(0, 4), (x, v) -> x.count(v), BAD);
         int[] none = {0, 1, 0, 0, 0};
         int[] some = {3, 2, 23, 1, 8};
         int[] most = {6, 6, 160, 5, 12};
