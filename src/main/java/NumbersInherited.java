@@ -986,26 +986,19 @@ public final class NumbersInherited {
             written = 0;
             place = 0;
             next();
-            boolean stands = true;
-            for (int i = 0; i < starts.length && stands; i++) {
-                starts[i] = written;
-                stands = part(KEY_SAYS + i);
+            int part = 0;
+            while (part < starts.length && token == KEY_SAYS + part) {
+                starts[part] = written;
+                next();
+                if (!either(0) || token != ';') {
+                    break;
+                }
+                write(STOP);
+                next();
+                part++;
             }
             size = 0;
-            return stands && token == END ? NONE : begin;
-        }
-
-        private boolean part(int key) {
-            if (token != key) {
-                return false;
-            }
-            next();
-            if (!either(0) || token != ';') {
-                return false;
-            }
-            next();
-            write(STOP);
-            return true;
+            return part == starts.length && token == END ? NONE : begin;
         }
 
         // Each of these answers false as soon as the TOKEN at hand can't stand where it does; open says how many
